@@ -240,7 +240,7 @@ public final class AsyncRings {
         }
     }
 
-    /** Starts a WAITING request, or executes a PENDING one whose time is up, and goes on along its chain. */
+    // A start and an execution at the end of the wait go the same way, but what has waited does not wait again.
     private void runChain(int first) {
         for (int at = first; at < reqCount; at++) {
             int ticks = reqState[at] == WAITING ? ticksToWait(at) : 0;

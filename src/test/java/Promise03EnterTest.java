@@ -184,8 +184,8 @@ public final class Promise03EnterTest {
         for (int latency = 0; latency <= 4; latency++) {
             for (int[] entry : wrong) {
                 AsyncRings rings = new AsyncRings(4, 4, latency);
+                rings.setBuffer(0, 3);
                 String memory = Snapshot.memory(rings);
-                rings.setBuffer(0, 0);
                 rings.prep(entry[0] | LINK, entry[1], entry[2], 1);
                 rings.prep(NOP + LINK, 0, 0, 2);
                 rings.prep(WRITE, 0, 0, 3);
@@ -231,6 +231,22 @@ public final class Promise03EnterTest {
         check.same("enter(8)", rings.enter(8), 8);
         check.completions("after cancel", rings, 0, 5, CANCELED, 6, CANCELED, 5, CANCELED, 5, CANCELED, 8, 2, 9, 0);
         check.live("after cancel", rings, 7, 4, 5, 4);
+    }
+
+    private static void cancelOfAllThatCanBeLive() {
+        AsyncRings rings = new AsyncRings(16, 4, 2);
+        for (int i = 0; i < 31; i++) {
+            rings.prep(TIMEOUT, 16, 0, 5);
+            rings.enter(1);
+        }
+        rings.prep(CANCEL, 5, 0, 6);
+        check.same("enter(1) with 31 live", rings.enter(1), 1);
+        check.same("liveCount()", rings.liveCount(), 0);
+        check.same("cqReady()", rings.cqReady(), 4);
+        check.same("overflowCount()", rings.overflowCount(), 28);
+        check.same("cqResult(30)", rings.cqResult(30), CANCELED);
+        check.same("cqTag(31)", rings.cqTag(31), 6);
+        check.same("cqResult(31)", rings.cqResult(31), 31);
     }
 
     private static void cancelWithoutTarget() {
@@ -291,6 +307,7 @@ public final class Promise03EnterTest {
         wrongArguments();
         rightArgumentsAtTheEdges();
         cancelFindsPendingOnes();
+        cancelOfAllThatCanBeLive();
         cancelWithoutTarget();
         cancelsInAChain();
         headsStartInOrder();

@@ -154,6 +154,23 @@ public final class Promise04TickTest {
         check.live("after tick", rings, 11, 4);
     }
 
+    private static void asManyAsCanBeLive() {
+        AsyncRings rings = new AsyncRings(16, 16, 1);
+        for (int i = 0; i < 31; i++) {
+            rings.prep(TIMEOUT, 2, 0, i % 2);
+            rings.enter(1);
+        }
+        check.same("tick() with 31 live", rings.tick(), 0);
+        rings.prep(TIMEOUT, 1, 0, 2);
+        check.same("enter(1)", rings.enter(1), 1);
+        check.same("liveCount()", rings.liveCount(), 32);
+        check.same("tick() with 32 due", rings.tick(), 32);
+        check.same("liveCount()", rings.liveCount(), 0);
+        check.same("cqReady()", rings.cqReady(), 16);
+        check.same("overflowCount()", rings.overflowCount(), 16);
+        check.same("cqTag(31)", rings.cqTag(31), 2);
+    }
+
     private static void flushesFirst() {
         AsyncRings rings = new AsyncRings(8, 2, 1);
         for (int i = 1; i <= 4; i++) {
@@ -183,6 +200,7 @@ public final class Promise04TickTest {
         failedChainIsCounted();
         cancelStopsWhatIsDue();
         cancelReachesBack();
+        asManyAsCanBeLive();
         flushesFirst();
         check.end();
     }

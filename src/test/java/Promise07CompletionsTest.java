@@ -69,12 +69,19 @@ public final class Promise07CompletionsTest {
             for (int oldest = 1; oldest <= 120; oldest++) {
                 while (written < oldest + size + 1) {
                     written++;
-                    rings.prep(AsyncRings.OP_NOP, 0, 0, written);
+                    rings.prep(AsyncRings.OP_CANCEL, 0, 0, written);
                     rings.enter(1);
                 }
-                for (int k = 0; oldest + k <= written; k++) {
+                int last = written - oldest;
+                for (int k = 0; k <= last; k++) {
                     check.same("cqTag(" + k + ") of " + size, rings.cqTag(k), oldest + k);
+                    check.same("cqResult(" + k + ") of " + size, rings.cqResult(k), NONE);
                 }
+                // What earlier completions left behind is not seen any more.
+                check.same("cqTag beyond the last", rings.cqTag(last + 1), 0);
+                check.same("cqResult beyond the last", rings.cqResult(last + 1), 0);
+                check.same("cqTag before the first", rings.cqTag(-1), 0);
+                check.same("cqResult before the first", rings.cqResult(-1), 0);
                 rings.pop();
             }
         }
