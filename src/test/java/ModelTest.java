@@ -4,7 +4,7 @@ public final class ModelTest {
     private static final int CALLS = 300;
     private static final int[] EDGES = {Integer.MIN_VALUE, -1, 0, 7, 8, 15, 16, 17, Integer.MAX_VALUE};
 
-    private final Check check = new Check();
+    private final Check check = new Check("Long runs");
     private long seed;
     private AsyncRings rings;
     private Model model;

@@ -1,316 +1,355 @@
 /** Promise 3: enter flushes, consumes, links and starts, in this order. */
-public final class Promise03EnterTest {
-    private static final Check check = new Check();
-    private static final int NOP = AsyncRings.OP_NOP;
-    private static final int READ = AsyncRings.OP_READ;
-    private static final int WRITE = AsyncRings.OP_WRITE;
-    private static final int CMP = AsyncRings.OP_CMP;
-    private static final int TIMEOUT = AsyncRings.OP_TIMEOUT;
-    private static final int CANCEL = AsyncRings.OP_CANCEL;
-    private static final int LINK = AsyncRings.FLAG_LINK;
-    private static final int INVALID = AsyncRings.ERR_INVALID;
-    private static final int CANCELED = AsyncRings.ERR_CANCELED;
-
-    private static void takesAtMostN() {
-        AsyncRings rings = new AsyncRings(8, 8, 0);
-        for (int i = 1; i <= 6; i++) {
-            rings.prep(NOP, 0, 0, i);
-        }
-        String before = Snapshot.of(rings);
-        check.same("enter(0)", rings.enter(0), 0);
-        check.same("enter(-1)", rings.enter(-1), 0);
-        check.same("enter(MIN_VALUE)", rings.enter(Integer.MIN_VALUE), 0);
-        check.yes("enter with n <= 0 takes nothing", before.equals(Snapshot.of(rings)));
-        check.same("enter(1)", rings.enter(1), 1);
-        check.same("enter(2)", rings.enter(2), 2);
-        check.completions("after three", rings, 0, 1, 0, 2, 0, 3, 0);
-        check.same("sqPending()", rings.sqPending(), 3);
-        check.same("enter(MAX_VALUE)", rings.enter(Integer.MAX_VALUE), 3);
-        check.same("enter on an empty ring", rings.enter(4), 0);
-    }
-
-    private static void flushesFirst() {
-        AsyncRings rings = new AsyncRings(8, 2, 0);
-        for (int i = 1; i <= 5; i++) {
-            rings.prep(NOP, 0, 0, i);
-        }
-        rings.enter(5);
-        check.completions("five posted", rings, 3, 1, 0, 2, 0, 3, 0, 4, 0, 5, 0);
-        rings.pop();
-        // With nothing to consume there is still a flush, only as far as the CQ has room.
-        check.same("enter(0)", rings.enter(0), 0);
-        check.completions("one moved", rings, 2, 2, 0, 3, 0, 4, 0, 5, 0);
-        rings.pop();
-        rings.pop();
+public final class Promise03EnterTest extends Scenes {
+    private static void flushComesFirst(Check check) {
+        AsyncRings rings = new AsyncRings(4, 3, 0);
+        post(rings, 1, 5);
+        pops(rings, 2);
         rings.prep(NOP, 0, 0, 6);
         check.same("enter(1)", rings.enter(1), 1);
-        check.completions("flushed before the new one", rings, 1, 4, 0, 5, 0, 6, 0);
-        rings.pop();
+        check.tagsFrom("the parked ones stay ahead of the new one", rings, 3, 3, 1);
+        pops(rings, 3);
         rings.prep(NOP, 0, 0, 7);
         rings.enter(1);
-        check.completions("parked ones stay ahead", rings, 1, 5, 0, 6, 0, 7, 0);
-        check.same("enter(-3)", rings.enter(-3), 0);
-        rings.pop();
-        check.same("enter(-3)", rings.enter(-3), 0);
-        check.completions("a negative n flushes too", rings, 0, 6, 0, 7, 0);
+        check.tagsFrom("all parked ones moved", rings, 6, 2, 0);
+        // The room that the flush makes counts already for what is consumed.
+        AsyncRings owing = owing(4, 28);
+        owing.prep(NOP, 0, 0, 31);
+        owing.prep(NOP, 0, 0, 32);
+        owing.prep(NOP, 0, 0, 33);
+        check.same("enter(3) at MAX_OWED", owing.enter(3), 0);
+        pops(owing, 2);
+        check.same("enter(3) with room for two in the CQ", owing.enter(3), 2);
+        check.tagsFrom("two moved and two posted", owing, 3, 2, 28);
     }
 
-    private static void stopsAtMaxOwed() {
-        AsyncRings rings = new AsyncRings(16, 2, 1);
-        for (int i = 0; i < 32; i++) {
-            rings.prep(TIMEOUT, 16, 0, i);
-            check.same("enter number " + i, rings.enter(1), 1);
-        }
-        rings.prep(NOP, 0, 0, 100);
-        rings.prep(NOP, 0, 0, 101);
-        check.same("enter(5) with 32 live", rings.enter(5), 0);
-        check.same("sqPending()", rings.sqPending(), 2);
-        check.same("liveCount()", rings.liveCount(), 32);
-    }
-
-    private static void parkedOnesAreOwed() {
-        AsyncRings rings = new AsyncRings(16, 2, 1);
-        for (int i = 0; i < 12; i++) {
-            rings.prep(NOP, 0, 0, i);
-        }
-        rings.enter(12);
-        check.same("overflowCount()", rings.overflowCount(), 10);
-        for (int i = 0; i < 16; i++) {
-            rings.prep(TIMEOUT, 16, 0, 50 + i);
-        }
-        check.same("enter(16)", rings.enter(16), 16);
-        for (int i = 0; i < 16; i++) {
-            rings.prep(i == 5 ? NOP : TIMEOUT + LINK, 10, 0, 70 + i);
-        }
-        // 10 parked and 16 live: six more, and the link of the sixth reaches nobody.
-        check.same("enter(16)", rings.enter(16), 6);
-        check.same("live and parked", rings.liveCount() + rings.overflowCount(), 32);
-        check.same("liveState of the one before the last", rings.liveState(20), 1);
-        check.same("liveState of the last", rings.liveState(21), 0);
-        check.same("enter(1) at MAX_OWED", rings.enter(1), 0);
-        rings.pop();
-        // The flush of enter itself makes the room: 31 owed, one more is taken, and its link is ignored.
-        check.same("enter(16) at MAX_OWED - 1", rings.enter(16), 1);
-        check.same("liveTag of the last", rings.liveTag(22), 76);
-        check.same("liveState of the last", rings.liveState(22), 20);
-        check.same("overflowCount()", rings.overflowCount(), 9);
-    }
-
-    private static void noneIsDroppedAtTheLimit() {
-        AsyncRings rings = new AsyncRings(16, 16, 0);
-        int written = 0;
-        for (int i = 0; i < 60; i++) {
-            if (rings.prep(NOP, 0, 0, 1000 + written)) {
-                written++;
+    private static void theLeastOfThreeLimitsHolds(Check check) {
+        int[] owed = {0, 1, 16, 29, 30, 31, 32};
+        int[] wanted = {MIN, -1, 0, 1, 2, 3, 4, 5, 16, MAX};
+        for (int live : owed) {
+            for (int pending = 0; pending <= 4; pending++) {
+                for (int n : wanted) {
+                    AsyncRings rings = new AsyncRings(4, 4, 0);
+                    timers(rings, 100, live);
+                    for (int i = 0; i < pending; i++) {
+                        rings.prep(NOP, 0, 0, 1 + i);
+                    }
+                    int due = Math.max(0, Math.min(n, Math.min(pending, 32 - live)));
+                    String what = "enter(" + n + ") with " + pending + " entries and " + live + " live";
+                    check.same(what, rings.enter(n), due);
+                    check.same(what + ": sqPending()", rings.sqPending(), pending - due);
+                    check.tagsFrom(what, rings, 1, due, 0);
+                }
             }
-            rings.enter(1);
-        }
-        check.same("cqReady()", rings.cqReady(), 16);
-        check.same("overflowCount()", rings.overflowCount(), 32);
-        for (int k = 0; k < 48; k++) {
-            check.same("cqTag(" + k + ")", rings.cqTag(k), 1000 + k);
-        }
-        check.same("cqTag(48)", rings.cqTag(48), 0);
-        check.same("sqPending()", rings.sqPending(), 12);
-        // The queue goes round its end without losing anything.
-        for (int k = 0; k < 200; k++) {
-            check.same("oldest tag", rings.cqTag(0), 1000 + k);
-            check.yes("pop()", rings.pop());
-            rings.enter(1);
-            rings.prep(NOP, 0, 0, 1000 + written);
-            written++;
         }
     }
 
-    private static void linksMakeChains() {
-        AsyncRings rings = new AsyncRings(16, 16, 2);
-        rings.prep(TIMEOUT + LINK, 3, 0, 1);
-        rings.prep(NOP + LINK, 0, 0, 2);
-        rings.prep(READ, 0, 0, 3);
-        rings.prep(NOP, 0, 0, 4);
-        rings.prep(NOP + LINK, 0, 0, 5);
-        rings.prep(WRITE + LINK, 0, 0, 6);
-        check.same("enter(6)", rings.enter(6), 6);
-        check.completions("heads that end at once", rings, 0, 4, 0, 5, 0);
-        // 6 is the last one of the call: its link is ignored.
-        check.live("the rest", rings, 1, 7, 2, 1, 3, 0, 6, 4);
-        rings.prep(NOP, 0, 0, 7);
-        rings.enter(1);
-        check.completions("no link across calls", rings, 0, 4, 0, 5, 0, 7, 0);
+    private static void theOldestEntryIsTaken(Check check) {
+        for (int s = 2; s <= 16; s++) {
+            AsyncRings rings = new AsyncRings(s, 2, 1);
+            int tag = 1;
+            for (int round = 0; round < 3 * s; round++) {
+                while (rings.sqPending() < s) {
+                    rings.prep(TIMEOUT + LINK, 16, 0, tag);
+                    tag++;
+                }
+                rings.enter(2);
+                // The second one is WAITING behind the first, which has the smaller sequence number.
+                check.live("round " + round + " of " + s, rings, 2 * round + 1, 33, 2 * round + 2, 0);
+                ticks(rings, 32);
+                pops(rings, 2);
+            }
+        }
     }
 
-    private static void linkEndsWithTheCall() {
+    private static void theHeadGrowsByOneForEach(Check check) {
+        AsyncRings rings = new AsyncRings(16, 16, 0);
+        for (int n = 1; n <= 16; n++) {
+            while (rings.prep(NOP, 0, 0, 1)) {
+                continue;
+            }
+            check.same("enter(" + n + ")", rings.enter(n), n);
+            check.same("sqPending() after enter(" + n + ")", rings.sqPending(), 16 - n);
+            pops(rings, n);
+        }
+    }
+
+    private static void nothingIsConsumedForNoneOrLess(Check check) {
+        int[] none = {0, -1, -2, -16, MIN, MIN + 1};
+        for (int n : none) {
+            AsyncRings rings = new AsyncRings(4, 4, 0);
+            rings.prep(NOP, 0, 0, 1);
+            rings.prep(TIMEOUT, 5, 0, 2);
+            String before = Snapshot.of(rings);
+            check.same("enter(" + n + ")", rings.enter(n), 0);
+            check.shows("after enter(" + n + ")", rings, before);
+            check.same("enter(2) after enter(" + n + ")", rings.enter(2), 2);
+            check.completions("after enter(2)", rings, 0, 1, OK);
+        }
+    }
+
+    private static void aLinkReachesTheNextOne(Check check) {
         AsyncRings rings = new AsyncRings(8, 8, 2);
-        rings.prep(CMP + LINK, 0, 1, 1);
+        rings.prep(READ + LINK, 0, 0, 1);
         rings.prep(NOP + LINK, 0, 0, 2);
         rings.prep(NOP, 0, 0, 3);
-        check.same("enter(1)", rings.enter(1), 1);
-        check.live("alone", rings, 1, 4);
-        check.same("enter(2)", rings.enter(2), 2);
-        check.completions("the others run at once", rings, 0, 2, 0, 3, 0);
-        rings.tick();
-        check.same("tick()", rings.tick(), 1);
-        check.completions("the mismatch takes nobody along", rings, 0, 2, 0, 3, 0, 1, AsyncRings.ERR_MISMATCH);
-    }
-
-    private static void chainRunsAtOnceWithoutLatency() {
-        AsyncRings rings = new AsyncRings(8, 8, 0);
-        rings.setBuffer(0, 6);
-        rings.prep(WRITE + LINK, 1, 0, 1);
-        rings.prep(CMP + LINK, 1, 6, 2);
-        rings.prep(READ + LINK, 1, 2, 3);
-        rings.prep(CMP + LINK, 1, 5, 4);
-        rings.prep(WRITE + LINK, 2, 0, 5);
+        rings.prep(READ, 0, 0, 4);
+        rings.prep(READ + LINK, 0, 0, 5);
         rings.prep(NOP, 0, 0, 6);
-        rings.prep(NOP, 0, 0, 7);
-        check.same("enter(7)", rings.enter(7), 7);
-        check.completions("after enter", rings, 0, 1, 0, 2, 0, 3, 0, 4, AsyncRings.ERR_MISMATCH, 5, CANCELED,
-                6, CANCELED, 7, 0);
-        check.same("getBuffer(2)", rings.getBuffer(2), 6);
-        check.same("getBlock(2)", rings.getBlock(2), 0);
-        check.same("liveCount()", rings.liveCount(), 0);
+        rings.enter(6);
+        check.live("two chains and a single one", rings, 1, 5, 2, 1, 3, 0, 4, 4, 5, 5, 6, 0);
+        // The longest chain there can be: the whole of the largest SQ.
+        AsyncRings longest = new AsyncRings(16, 16, 2);
+        for (int i = 1; i <= 16; i++) {
+            longest.prep(TIMEOUT + LINK, 9, 0, i);
+        }
+        longest.enter(16);
+        for (int k = 0; k < 16; k++) {
+            check.same("liveState(" + k + ")", longest.liveState(k), k == 0 ? 19 : k < 15 ? 1 : 0);
+        }
     }
 
-    private static void wrongArguments() {
-        int[][] wrong = {
-            {READ, -1, 0}, {READ, 16, 0}, {READ, 0, -1}, {READ, 0, 8}, {READ, Integer.MAX_VALUE, Integer.MIN_VALUE},
-            {WRITE, -1, 0}, {WRITE, 16, 0}, {WRITE, 0, -1}, {WRITE, 0, 8}, {WRITE, Integer.MIN_VALUE, 0},
-            {CMP, -1, 0}, {CMP, 16, 0}, {CMP, Integer.MAX_VALUE, 0}, {CMP, Integer.MIN_VALUE, 0},
-            {TIMEOUT, 0, 0}, {TIMEOUT, -1, 0}, {TIMEOUT, 17, 0}, {TIMEOUT, Integer.MAX_VALUE, 0},
-            {TIMEOUT, Integer.MIN_VALUE, 0},
-            {6, 0, 0}, {7, 0, 0}, {8, 0, 0}, {9, 0, 0}, {10, 0, 0}, {11, 0, 0}, {12, 0, 0}, {13, 0, 0}, {14, 0, 0},
-            {15, 0, 0}, {-17, 0, 0},
-        };
-        for (int latency = 0; latency <= 4; latency++) {
-            for (int[] entry : wrong) {
-                AsyncRings rings = new AsyncRings(4, 4, latency);
-                rings.setBuffer(0, 3);
-                String memory = Snapshot.memory(rings);
-                rings.prep(entry[0] | LINK, entry[1], entry[2], 1);
-                rings.prep(NOP + LINK, 0, 0, 2);
-                rings.prep(WRITE, 0, 0, 3);
-                rings.enter(3);
-                String what = "opcode " + entry[0] + " with " + entry[1] + ", " + entry[2];
-                check.completions(what, rings, 0, 1, INVALID, 2, CANCELED, 3, CANCELED);
-                check.same(what + ": liveCount()", rings.liveCount(), 0);
-                check.yes(what + " touches nothing", memory.equals(Snapshot.memory(rings)));
+    private static void theLastLinkIsIgnored(Check check) {
+        AsyncRings byNumber = new AsyncRings(4, 4, 2);
+        byNumber.prep(READ + LINK, 0, 0, 1);
+        byNumber.prep(READ + LINK, 0, 0, 2);
+        byNumber.prep(READ, 0, 0, 3);
+        byNumber.enter(2);
+        check.live("the last because of n", byNumber, 1, 5, 2, 0);
+        AsyncRings byEmptyRing = new AsyncRings(4, 4, 2);
+        byEmptyRing.prep(READ + LINK, 0, 0, 1);
+        byEmptyRing.prep(READ + LINK, 0, 0, 2);
+        byEmptyRing.enter(9);
+        check.live("the last because the SQ is empty", byEmptyRing, 1, 5, 2, 0);
+        AsyncRings single = new AsyncRings(4, 4, 2);
+        single.prep(READ + LINK, 0, 0, 1);
+        single.enter(1);
+        check.live("the first and the last", single, 1, 4);
+        AsyncRings byLimit = owing(30, 0);
+        for (int i = 1; i <= 3; i++) {
+            byLimit.prep(TIMEOUT + LINK, 5, 0, i);
+        }
+        check.same("enter(3) with 30 live", byLimit.enter(3), 2);
+        check.same("liveState(30)", byLimit.liveState(30), 11);
+        check.same("the last because of MAX_OWED: liveState(31)", byLimit.liveState(31), 0);
+    }
+
+    private static void headsAreTheFirstAndThoseAfterAnEnd(Check check) {
+        AsyncRings rings = new AsyncRings(16, 16, 3);
+        rings.prep(READ + LINK, 0, 0, 1);
+        rings.enter(1);
+        // The first one of a call is a head though the one before it had a link.
+        rings.prep(READ, 0, 0, 2);
+        rings.prep(READ, 0, 0, 3);
+        rings.prep(READ + LINK, 0, 0, 4);
+        rings.prep(READ + LINK, 0, 0, 5);
+        rings.prep(READ, 0, 0, 6);
+        rings.prep(READ + LINK, 0, 0, 7);
+        rings.enter(6);
+        check.live("heads are started", rings, 1, 6, 2, 6, 3, 6, 4, 7, 5, 1, 6, 0, 7, 6);
+    }
+
+    private static void headsStartInConsumptionOrder(Check check) {
+        AsyncRings rings = new AsyncRings(8, 8, 0);
+        fillBuffers(rings, 10);
+        rings.prep(WRITE, 0, 1, 1);
+        rings.prep(WRITE, 0, 2, 2);
+        rings.prep(READ, 0, 3, 3);
+        rings.prep(WRITE, 0, 4, 4);
+        rings.enter(4);
+        check.tagsFrom("in order", rings, 1, 4, 0);
+        check.same("getBuffer(3)", rings.getBuffer(3), 12);
+        check.same("getBlock(0)", rings.getBlock(0), 14);
+        // A cancel reaches the head before it, which is PENDING by then, and not the one behind it.
+        AsyncRings other = new AsyncRings(8, 8, 0);
+        other.prep(TIMEOUT, 5, 0, 1);
+        other.prep(CANCEL, 1, 0, 2);
+        other.prep(TIMEOUT, 5, 0, 1);
+        other.enter(3);
+        check.completions("cancel between two", other, 0, 1, CANCELED, 2, 1);
+        check.live("cancel between two", other, 1, 10);
+    }
+
+    private static void aStartEndsBeforeTheNext(Check check) {
+        AsyncRings rings = new AsyncRings(16, 16, 0);
+        fillBuffers(rings, 10);
+        rings.prep(WRITE + LINK, 0, 1, 1);
+        rings.prep(READ + LINK, 0, 2, 2);
+        rings.prep(CMP + LINK, 0, 99, 3);
+        rings.prep(NOP + LINK, 0, 0, 4);
+        rings.prep(NOP, 0, 0, 5);
+        rings.prep(WRITE + LINK, 0, 3, 6);
+        rings.prep(READ, 0, 4, 7);
+        rings.enter(7);
+        check.completions("chain after chain", rings, 0, 1, OK, 2, OK, 3, MISMATCH, 4, CANCELED, 5, CANCELED, 6, OK,
+                7, OK);
+        check.same("getBuffer(2)", rings.getBuffer(2), 11);
+        check.same("getBuffer(4)", rings.getBuffer(4), 13);
+    }
+
+    private static void theAnswerIsHowManyWereConsumed(Check check) {
+        AsyncRings rings = new AsyncRings(16, 2, 2);
+        rings.prep(15 + LINK, 0, 0, 1);
+        rings.prep(NOP, 0, 0, 2);
+        rings.prep(READ + LINK, 0, 0, 3);
+        rings.prep(NOP, 0, 0, 4);
+        rings.prep(CANCEL, 3, 0, 5);
+        rings.prep(NOP, 0, 0, 6);
+        // Neither what is posted nor what stays live makes a difference.
+        check.same("enter(5)", rings.enter(5), 5);
+        check.same("enter(5) with one left", rings.enter(5), 1);
+        check.same("enter(5) with none left", rings.enter(5), 0);
+    }
+
+    private static void withoutEntriesThereIsStillAFlush(Check check) {
+        int[] any = {MIN, -1, 0, 1, MAX};
+        for (int n : any) {
+            AsyncRings empty = new AsyncRings(4, 3, 0);
+            post(empty, 1, 6);
+            pops(empty, 2);
+            check.same("enter(" + n + ") on an empty SQ", empty.enter(n), 0);
+            check.tagsFrom("flushed by enter(" + n + ")", empty, 3, 3, 1);
+            if (n <= 0) {
+                AsyncRings holding = busy();
+                check.same("enter(" + n + ") with entries", holding.enter(n), 0);
+                check.same("sqPending()", holding.sqPending(), 3);
+                check.tagsFrom("flushed by enter(" + n + ") with entries", holding, 32, 3, 2);
             }
         }
+        // At the limit: with the CQ full nothing can move; with room for one, one moves and one is consumed.
+        AsyncRings owing = owing(0, 32);
+        owing.prep(TIMEOUT, 5, 0, 50);
+        owing.prep(TIMEOUT, 5, 0, 51);
+        check.same("enter(2) at MAX_OWED", owing.enter(2), 0);
+        check.tagsFrom("no room", owing, 1, 2, 32);
+        owing.pop();
+        check.same("enter(2) at MAX_OWED after a pop", owing.enter(2), 1);
+        check.tagsFrom("one moved", owing, 2, 2, 31);
     }
 
-    private static void rightArgumentsAtTheEdges() {
-        int[][] right = {
-            {READ, 0, 0, 3}, {READ, 15, 7, 3}, {WRITE, 0, 7, 3}, {WRITE, 15, 0, 3}, {CMP, 0, -1, 3},
-            {CMP, 15, Integer.MAX_VALUE, 3}, {CMP, 7, Integer.MIN_VALUE, 3}, {CMP, 7, 8, 3},
-            {TIMEOUT, 1, -5, 1}, {TIMEOUT, 16, 99, 16},
-        };
-        for (int[] entry : right) {
-            AsyncRings rings = new AsyncRings(4, 4, 3);
-            rings.prep(entry[0], entry[1], entry[2], 1);
-            rings.enter(1);
-            check.live("opcode " + entry[0] + " with " + entry[1] + ", " + entry[2], rings, 1, 2 * entry[3]);
-        }
-        // A timer is never immediate, even on a device without latency.
-        AsyncRings rings = new AsyncRings(4, 4, 0);
-        rings.prep(TIMEOUT, 1, 0, 1);
+    private static void noLinkBetweenCalls(Check check) {
+        AsyncRings rings = new AsyncRings(4, 8, 0);
+        rings.prep(15 + LINK, 0, 0, 1);
+        rings.prep(NOP + LINK, 0, 0, 2);
+        rings.prep(NOP, 0, 0, 3);
         rings.enter(1);
-        check.live("timer without latency", rings, 1, 2);
+        rings.enter(2);
+        check.completions("a failed one cancels nothing of a later call", rings, 0, 1, INVALID, 2, OK, 3, OK);
+        rings.prep(TIMEOUT + LINK, 2, 0, 4);
+        rings.enter(1);
+        rings.enter(0);
+        rings.prep(TIMEOUT + LINK, 2, 0, 5);
+        rings.enter(1);
+        check.live("both wait on their own", rings, 4, 4, 5, 4);
+        rings.prep(CANCEL, 4, 0, 6);
+        rings.enter(1);
+        check.live("the cancel of one leaves the other", rings, 5, 4);
+        // The limit cuts a chain in two as well.
+        AsyncRings owing = owing(31, 0);
+        owing.prep(TIMEOUT + LINK, 16, 0, 7);
+        owing.prep(NOP, 0, 0, 8);
+        check.same("enter(2) with 31 live", owing.enter(2), 1);
+        ticks(owing, 16);
+        check.same("overflowCount()", owing.overflowCount(), 30);
+        check.same("enter(2)", owing.enter(2), 1);
+        check.same("cqTag(32)", owing.cqTag(32), 8);
     }
 
-    private static void cancelFindsPendingOnes() {
-        AsyncRings rings = new AsyncRings(16, 16, 2);
-        rings.prep(TIMEOUT + LINK, 9, 0, 5);
-        rings.prep(NOP + LINK, 0, 0, 6);
-        rings.prep(TIMEOUT, 9, 0, 5);
-        rings.prep(READ, 0, 0, 5);
-        rings.prep(READ, 0, 0, 7);
-        rings.prep(CANCEL + LINK, 5, 0, 8);
-        rings.prep(NOP, 0, 0, 9);
-        // A head that is not started yet is WAITING, so the cancel before it does not reach it.
-        rings.prep(READ, 0, 0, 5);
-        check.same("enter(8)", rings.enter(8), 8);
-        check.completions("after cancel", rings, 0, 5, CANCELED, 6, CANCELED, 5, CANCELED, 5, CANCELED, 8, 2, 9, 0);
-        check.live("after cancel", rings, 7, 4, 5, 4);
+    private static void othersStartAfterASuccessOnly(Check check) {
+        AsyncRings rings = new AsyncRings(8, 8, 1);
+        fillBuffers(rings, 10);
+        rings.prep(READ + LINK, 0, 0, 1);
+        rings.prep(WRITE + LINK, 1, 1, 2);
+        rings.prep(CMP + LINK, 1, 99, 3);
+        rings.prep(WRITE, 2, 2, 4);
+        rings.enter(4);
+        check.live("only the head is started", rings, 1, 3, 2, 1, 3, 1, 4, 0);
+        rings.tick();
+        check.live("then the next", rings, 2, 3, 3, 1, 4, 0);
+        rings.tick();
+        check.live("then the next", rings, 3, 3, 4, 0);
+        rings.tick();
+        check.live("never the one behind a failure", rings);
+        check.same("getBlock(1)", rings.getBlock(1), 11);
+        check.same("getBlock(2)", rings.getBlock(2), 0);
     }
 
-    private static void cancelOfAllThatCanBeLive() {
-        AsyncRings rings = new AsyncRings(16, 4, 2);
-        for (int i = 0; i < 31; i++) {
-            rings.prep(TIMEOUT, 16, 0, 5);
-            rings.enter(1);
+    private static void othersAreCanceledAfterAFailure(Check check) {
+        int[] failing = {15, 6, READ, CMP, TIMEOUT, CANCEL};
+        for (int opcode : failing) {
+            AsyncRings rings = new AsyncRings(8, 8, 0);
+            rings.prep(opcode + LINK, -1, 0, 1);
+            rings.prep(NOP + LINK, 0, 0, 2);
+            rings.prep(opcode + LINK, -1, 0, 3);
+            rings.prep(NOP, 0, 0, 4);
+            rings.prep(NOP, 0, 0, 5);
+            rings.enter(5);
+            int result = opcode == CANCEL ? NOENT : INVALID;
+            check.completions("opcode " + opcode, rings, 0, 1, result, 2, CANCELED, 3, CANCELED, 4, CANCELED, 5, OK);
         }
-        rings.prep(CANCEL, 5, 0, 6);
-        check.same("enter(1) with 31 live", rings.enter(1), 1);
-        check.same("liveCount()", rings.liveCount(), 0);
-        check.same("cqReady()", rings.cqReady(), 4);
-        check.same("overflowCount()", rings.overflowCount(), 28);
-        check.same("cqResult(30)", rings.cqResult(30), CANCELED);
-        check.same("cqTag(31)", rings.cqTag(31), 6);
-        check.same("cqResult(31)", rings.cqResult(31), 31);
     }
 
-    private static void cancelWithoutTarget() {
-        AsyncRings rings = new AsyncRings(16, 16, 2);
-        rings.prep(TIMEOUT + LINK, 9, 0, 1);
-        rings.prep(NOP, 0, 0, 2);
-        // 2 is WAITING, 3 is the cancel itself, 4 its own successor: none of them is a target.
-        rings.prep(CANCEL, 2, 0, 30);
-        rings.prep(CANCEL + LINK, 3, 0, 3);
-        rings.prep(WRITE, 0, 0, 4);
-        rings.prep(CANCEL + LINK, 4, 0, 31);
-        rings.prep(WRITE, 0, 0, 4);
-        rings.enter(7);
-        int none = AsyncRings.ERR_NOENT;
-        check.completions("after enter", rings, 0, 30, none, 3, none, 4, CANCELED, 31, none, 4, CANCELED);
-        check.live("after enter", rings, 1, 19, 2, 0);
+    private static void pendingOnesStayLive(Check check) {
+        AsyncRings rings = new AsyncRings(8, 2, 4);
+        rings.prep(READ, 0, 0, 1);
+        rings.prep(WRITE, 0, 0, 2);
+        rings.prep(CMP, 0, 0, 3);
+        rings.prep(TIMEOUT, 1, 0, 4);
+        rings.prep(NOP, 0, 0, 5);
+        rings.enter(5);
+        check.live("pending", rings, 1, 8, 2, 8, 3, 8, 4, 2);
+        rings.enter(5);
+        check.live("after another enter", rings, 1, 8, 2, 8, 3, 8, 4, 2);
+        check.completions("only what ended at once", rings, 0, 5, OK);
     }
 
-    private static void cancelsInAChain() {
-        AsyncRings rings = new AsyncRings(16, 2, 2);
-        rings.prep(READ, 0, 0, -1);
-        rings.prep(READ, 0, 0, -2);
-        rings.prep(READ, 0, 0, -1);
-        rings.enter(3);
-        rings.prep(CANCEL + LINK, -1, 0, 10);
-        rings.prep(CANCEL + LINK, -2, 0, 11);
-        rings.prep(CANCEL + LINK, -2, 0, 12);
-        rings.prep(NOP, 0, 0, 13);
-        rings.enter(4);
-        check.completions("after enter", rings, 5, -1, CANCELED, -1, CANCELED, 10, 2, -2, CANCELED, 11, 1,
-                12, AsyncRings.ERR_NOENT, 13, CANCELED);
-        check.same("liveCount()", rings.liveCount(), 0);
-    }
-
-    private static void headsStartInOrder() {
-        AsyncRings rings = new AsyncRings(8, 8, 0);
-        rings.setBuffer(0, 1);
-        rings.setBuffer(1, 2);
-        rings.prep(WRITE + LINK, 0, 0, 1);
-        rings.prep(READ, 0, 2, 2);
-        rings.prep(WRITE + LINK, 0, 1, 3);
-        rings.prep(READ, 0, 3, 4);
-        rings.enter(4);
-        check.same("getBuffer(2)", rings.getBuffer(2), 1);
-        check.same("getBuffer(3)", rings.getBuffer(3), 2);
-        check.completions("after enter", rings, 0, 1, 0, 2, 0, 3, 0, 4, 0);
+    private static void completionsGoOnToTheList(Check check) {
+        for (int c = 2; c <= 16; c++) {
+            AsyncRings rings = new AsyncRings(16, c, 0);
+            for (int i = 1; i <= 16; i++) {
+                rings.prep(NOP, 0, 0, i);
+            }
+            rings.enter(16);
+            check.tagsFrom("16 at once, CQ of " + c, rings, 1, c, 16 - c);
+            for (int i = 17; i <= 32; i++) {
+                rings.prep(15 + LINK, 0, 0, i);
+            }
+            rings.enter(16);
+            check.tagsFrom("16 more, CQ of " + c, rings, 1, c, 32 - c);
+        }
     }
 
     public static void main(String[] args) {
-        takesAtMostN();
-        flushesFirst();
-        stopsAtMaxOwed();
-        parkedOnesAreOwed();
-        noneIsDroppedAtTheLimit();
-        linksMakeChains();
-        linkEndsWithTheCall();
-        chainRunsAtOnceWithoutLatency();
-        wrongArguments();
-        rightArgumentsAtTheEdges();
-        cancelFindsPendingOnes();
-        cancelOfAllThatCanBeLive();
-        cancelWithoutTarget();
-        cancelsInAChain();
-        headsStartInOrder();
+        Check check = new Check("Promise 3");
+        check.sentence("1. FLUSH.", Promise03EnterTest::flushComesFirst);
+        check.sentence("While k < n, sqHead != sqTail, and liveCount() + overflowCount() < MAX_OWED:",
+                Promise03EnterTest::theLeastOfThreeLimitsHolds);
+        check.sentence("the entry at SQ slot (sqHead mod S) becomes a new WAITING request with the next sequence"
+                + " number;", Promise03EnterTest::theOldestEntryIsTaken);
+        check.sentence("sqHead grows by 1;", Promise03EnterTest::theHeadGrowsByOneForEach);
+        check.sentence("If n <= 0, nothing is consumed.", Promise03EnterTest::nothingIsConsumedForNoneOrLess);
+        check.sentence("Each request consumed in this call whose link is true gets as successor the request consumed"
+                + " right after it.", Promise03EnterTest::aLinkReachesTheNextOne);
+        check.sentence("This does not apply to the last request consumed in this call: its link is ignored, and it"
+                + " gets no successor.", Promise03EnterTest::theLastLinkIsIgnored);
+        check.sentence("The chain heads are the first request consumed in this call, plus each request whose"
+                + " previously consumed request (of this call) got no successor.",
+                Promise03EnterTest::headsAreTheFirstAndThoseAfterAnEnd);
+        check.sentence("They are STARTed in consumption order.", Promise03EnterTest::headsStartInConsumptionOrder);
+        check.sentence("Each START, with everything it sets off, ends before the next head is started.",
+                Promise03EnterTest::aStartEndsBeforeTheNext);
+        check.sentence("Answers k, the number of entries consumed.",
+                Promise03EnterTest::theAnswerIsHowManyWereConsumed);
+        check.sentence("This is 0 if nothing was consumed, and step 1 still happens in that case.",
+                Promise03EnterTest::withoutEntriesThereIsStillAFlush);
+        check.sentence("Links never join requests consumed in different calls.",
+                Promise03EnterTest::noLinkBetweenCalls);
+        check.sentence("Only chain heads are started directly. Non-head members are started only through FINISH of"
+                + " their predecessor with a result >= 0.", Promise03EnterTest::othersStartAfterASuccessOnly);
+        check.sentence("Otherwise they are posted with ERR_CANCELED when a predecessor fails.",
+                Promise03EnterTest::othersAreCanceledAfterAFailure);
+        check.sentence("Requests that become PENDING stay live.", Promise03EnterTest::pendingOnesStayLive);
+        check.sentence("Completions produced here go to the CQ or the overflow list as POST describes.",
+                Promise03EnterTest::completionsGoOnToTheList);
         check.end();
     }
 }

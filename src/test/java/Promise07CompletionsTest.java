@@ -1,97 +1,148 @@
 /** Promise 7: cqTag and cqResult see the CQ and then the overflow list, and answer 0 for any other index. */
-public final class Promise07CompletionsTest {
-    private static final Check check = new Check();
-    private static final int NONE = AsyncRings.ERR_NOENT;
-
-    private static AsyncRings fiveFailures() {
-        AsyncRings rings = new AsyncRings(8, 3, 0);
-        for (int i = 1; i <= 5; i++) {
-            rings.prep(AsyncRings.OP_CANCEL, 0, 0, -i);
+public final class Promise07CompletionsTest extends Scenes {
+    /** An object with a CQ of c that has been gone through by first, and then holds failures with the tags 1, 2, .. */
+    private static AsyncRings failures(int c, int first, int count) {
+        AsyncRings rings = new AsyncRings(2, c, 0);
+        for (int i = 0; i < first; i++) {
+            post(rings, 5000 + i, 1);
+            rings.pop();
         }
-        rings.enter(5);
+        for (int tag = 1; tag <= count; tag++) {
+            rings.prep(CANCEL, 0, 0, tag);
+            rings.enter(1);
+        }
         return rings;
     }
 
-    private static void wrongIndex() {
-        AsyncRings rings = fiveFailures();
-        int[] wrong = {-1, -2, 5, 6, 48, 49, 1000, Integer.MIN_VALUE, Integer.MAX_VALUE};
-        for (int k : wrong) {
-            check.same("cqTag(" + k + ")", rings.cqTag(k), 0);
-            check.same("cqResult(" + k + ")", rings.cqResult(k), 0);
-        }
-        AsyncRings empty = new AsyncRings(2, 2, 0);
-        for (int k = -2; k <= 50; k++) {
-            check.same("cqTag(" + k + ") on a new object", empty.cqTag(k), 0);
-            check.same("cqResult(" + k + ") on a new object", empty.cqResult(k), 0);
-        }
-    }
-
-    private static void bothParts() {
-        AsyncRings rings = fiveFailures();
-        check.completions("full", rings, 2, -1, NONE, -2, NONE, -3, NONE, -4, NONE, -5, NONE);
-        rings.pop();
-        rings.pop();
-        // The index goes on from the CQ to the overflow list at cqReady, not at the capacity.
-        check.completions("after two pops", rings, 2, -3, NONE, -4, NONE, -5, NONE);
-        check.same("cqTag(3)", rings.cqTag(3), 0);
-        check.same("cqResult(3)", rings.cqResult(3), 0);
-        check.same("cqResult(-1)", rings.cqResult(-1), 0);
-        rings.enter(0);
-        check.completions("after a flush", rings, 0, -3, NONE, -4, NONE, -5, NONE);
-        rings.pop();
-        rings.pop();
-        rings.pop();
-        check.same("cqTag(0)", rings.cqTag(0), 0);
-        check.same("cqResult(0)", rings.cqResult(0), 0);
-    }
-
-    private static void tagsAndResultsBelongTogether() {
-        AsyncRings rings = new AsyncRings(8, 4, 0);
-        int[] tags = {Integer.MIN_VALUE, Integer.MAX_VALUE, 0, -1, 5, 5};
-        int[] opcodes = {0, 15, 5, 3, 0, 4};
-        int[] results = {0, AsyncRings.ERR_INVALID, NONE, AsyncRings.ERR_MISMATCH, 0, AsyncRings.ERR_INVALID};
-        for (int i = 0; i < tags.length; i++) {
-            rings.prep(opcodes[i], 0, 1, tags[i]);
-        }
-        rings.enter(6);
-        String before = Snapshot.of(rings);
-        for (int i = 0; i < tags.length; i++) {
-            check.same("cqTag(" + i + ")", rings.cqTag(i), tags[i]);
-            check.same("cqResult(" + i + ")", rings.cqResult(i), results[i]);
-        }
-        check.yes("asking changes nothing", before.equals(Snapshot.of(rings)));
-    }
-
-    private static void ringGoesRound() {
-        for (int size = AsyncRings.CQ_MIN; size <= AsyncRings.CQ_MAX; size++) {
-            AsyncRings rings = new AsyncRings(4, size, 0);
-            int written = 0;
-            for (int oldest = 1; oldest <= 120; oldest++) {
-                while (written < oldest + size + 1) {
-                    written++;
-                    rings.prep(AsyncRings.OP_CANCEL, 0, 0, written);
-                    rings.enter(1);
+    private static void ringPlaces(Check check) {
+        for (int c = 2; c <= 16; c++) {
+            for (int first = 0; first <= c; first++) {
+                AsyncRings rings = failures(c, first, c);
+                for (int k = 0; k < c; k++) {
+                    check.same("cqTag(" + k + ") of " + c + " from " + first, rings.cqTag(k), 1 + k);
                 }
-                int last = written - oldest;
-                for (int k = 0; k <= last; k++) {
-                    check.same("cqTag(" + k + ") of " + size, rings.cqTag(k), oldest + k);
-                    check.same("cqResult(" + k + ") of " + size, rings.cqResult(k), NONE);
-                }
-                // What earlier completions left behind is not seen any more.
-                check.same("cqTag beyond the last", rings.cqTag(last + 1), 0);
-                check.same("cqResult beyond the last", rings.cqResult(last + 1), 0);
-                check.same("cqTag before the first", rings.cqTag(-1), 0);
-                check.same("cqResult before the first", rings.cqResult(-1), 0);
                 rings.pop();
+                for (int k = 0; k < c - 1; k++) {
+                    check.same("cqTag(" + k + ") of " + c + " after pop()", rings.cqTag(k), 2 + k);
+                }
             }
         }
     }
 
+    private static void parkedPlaces(Check check) {
+        for (int c = 2; c <= 16; c++) {
+            for (int popped = 0; popped <= c; popped++) {
+                // The list begins at cqReady, not at the capacity: the pops move it forward.
+                AsyncRings rings = failures(c, 3, c + 32);
+                pops(rings, popped);
+                check.same("cqReady()", rings.cqReady(), c - popped);
+                for (int k = c - popped; k < c - popped + 32; k++) {
+                    check.same("cqTag(" + k + ") of " + c + " after " + popped, rings.cqTag(k), 1 + popped + k);
+                }
+            }
+        }
+    }
+
+    /** Every index beside 0 .. count - 1, as far as it may matter to an array, and the farthest. */
+    private static void otherTags(Check check, AsyncRings rings, int count) {
+        for (int k = -60; k < 120; k++) {
+            if (k < 0 || k >= count) {
+                check.same("cqTag(" + k + ") of " + count, rings.cqTag(k), 0);
+            }
+        }
+        int[] far = {MIN, MIN + 1, -48, 65536, 1 << 30, MAX - 1, MAX};
+        for (int k : far) {
+            check.same("cqTag(" + k + ") of " + count, rings.cqTag(k), 0);
+        }
+    }
+
+    private static void otherResults(Check check, AsyncRings rings, int count) {
+        for (int k = -60; k < 120; k++) {
+            if (k < 0 || k >= count) {
+                check.same("cqResult(" + k + ") of " + count, rings.cqResult(k), 0);
+            }
+        }
+        int[] far = {MIN, MIN + 1, -48, 65536, 1 << 30, MAX - 1, MAX};
+        for (int k : far) {
+            check.same("cqResult(" + k + ") of " + count, rings.cqResult(k), 0);
+        }
+    }
+
+    private static void otherTagsAreZero(Check check) {
+        otherTags(check, new AsyncRings(2, 2, 0), 0);
+        for (int count = 0; count <= 36; count++) {
+            AsyncRings rings = failures(4, 0, count);
+            otherTags(check, rings, count);
+            rings.pop();
+            otherTags(check, rings, Math.max(0, count - 1));
+        }
+        // What was there and has been taken is not seen any more.
+        AsyncRings emptied = failures(4, 9, 4);
+        pops(emptied, 4);
+        otherTags(check, emptied, 0);
+    }
+
+    private static void resultAndTagBelongTogether(Check check) {
+        AsyncRings rings = new AsyncRings(8, 3, 0);
+        rings.prep(TIMEOUT, 9, 0, 5);
+        rings.enter(1);
+        rings.prep(15, 0, 0, MIN);
+        rings.prep(NOP, 0, 0, MAX);
+        rings.prep(CANCEL, 5, 0, 0);
+        rings.prep(CANCEL, 5, 0, -1);
+        rings.prep(CMP, 0, 1, 8);
+        rings.enter(5);
+        check.completions("three in the CQ, three parked", rings, 3, MIN, INVALID, MAX, OK, 5, CANCELED, 0, 1,
+                -1, NOENT, 8, MISMATCH);
+        pops(rings, 2);
+        check.completions("one in the CQ, three parked", rings, 3, 5, CANCELED, 0, 1, -1, NOENT, 8, MISMATCH);
+        rings.tick();
+        check.completions("three in the CQ, one parked", rings, 1, 5, CANCELED, 0, 1, -1, NOENT, 8, MISMATCH);
+    }
+
+    private static void otherResultsAreZero(Check check) {
+        otherResults(check, new AsyncRings(2, 2, 0), 0);
+        for (int count = 0; count <= 36; count++) {
+            AsyncRings rings = failures(4, 0, count);
+            otherResults(check, rings, count);
+            rings.pop();
+            otherResults(check, rings, Math.max(0, count - 1));
+        }
+        AsyncRings emptied = new AsyncRings(4, 4, 0);
+        for (int i = 0; i < 100; i++) {
+            emptied.prep(15, 0, 0, 1);
+            emptied.enter(1);
+            emptied.pop();
+        }
+        otherResults(check, emptied, 0);
+    }
+
+    private static void askingChangesNothing(Check check) {
+        int[] any = {MIN, -1, 0, 1, 2, 4, 5, 6, 47, 48, MAX};
+        AsyncRings rings = busy();
+        AsyncRings other = busy();
+        for (int k : any) {
+            int due = k < 0 || k >= 5 ? 0 : 32 + k;
+            check.same("cqTag(" + k + ")", rings.cqTag(k), due);
+            check.same("cqTag(" + k + ") once more", rings.cqTag(k), due);
+            check.same("cqResult(" + k + ")", other.cqResult(k), 0);
+            check.same("cqResult(" + k + ") once more", other.cqResult(k), 0);
+        }
+        onlyAsked(check, "cqTag", rings);
+        onlyAsked(check, "cqResult", other);
+    }
+
     public static void main(String[] args) {
-        wrongIndex();
-        bothParts();
-        tagsAndResultsBelongTogether();
-        ringGoesRound();
+        Check check = new Check("Promise 7");
+        check.sentence("for 0 <= k < R, it is the completion at CQ slot ((cqHead + k) mod C);",
+                Promise07CompletionsTest::ringPlaces);
+        check.sentence("for R <= k < R + overflowCount(), it is the overflow completion at position k - R, where 0 is"
+                + " the oldest;", Promise07CompletionsTest::parkedPlaces);
+        check.sentence("any other k, including negative k, answers 0.", Promise07CompletionsTest::otherTagsAreZero);
+        check.sentence("cqResult(k) answers the result of the same completion as cqTag(k).",
+                Promise07CompletionsTest::resultAndTagBelongTogether);
+        check.sentence("For any other k it answers 0.", Promise07CompletionsTest::otherResultsAreZero);
+        check.sentence("Neither changes anything.", Promise07CompletionsTest::askingChangesNothing);
         check.end();
     }
 }

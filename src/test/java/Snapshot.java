@@ -19,6 +19,10 @@ final class Snapshot {
         return text + memory(rings);
     }
 
+    static String besideSq(AsyncRings rings) {
+        return of(rings).replaceFirst("^sq [0-9]+", "");
+    }
+
     static String memory(AsyncRings rings) {
         StringBuilder text = new StringBuilder(" buffers");
         for (int i = -1; i <= AsyncRings.BUFFERS; i++) {

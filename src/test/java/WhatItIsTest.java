@@ -1,0 +1,145 @@
+/** The sentences of "What it is" that name an edge. */
+public final class WhatItIsTest extends Scenes {
+    private static void aFullRingParks(Check check) {
+        for (int c = 2; c <= 16; c++) {
+            AsyncRings rings = new AsyncRings(2, c, 0);
+            post(rings, 1, c);
+            check.tagsFrom("CQ of " + c + " just full", rings, 1, c, 0);
+            post(rings, c + 1, 1);
+            check.tagsFrom("CQ of " + c + ", one too many", rings, 1, c, 1);
+            post(rings, c + 2, 1);
+            rings.pop();
+            post(rings, c + 3, 1);
+            check.tagsFrom("CQ of " + c + ", behind a parked one", rings, 2, c, 2);
+        }
+    }
+
+    private static void parkedOnesMoveAsFarAsThereIsRoom(Check check) {
+        AsyncRings rings = new AsyncRings(2, 3, 0);
+        post(rings, 1, 8);
+        check.tagsFrom("before", rings, 1, 3, 5);
+        rings.enter(0);
+        check.tagsFrom("enter without room", rings, 1, 3, 5);
+        pops(rings, 2);
+        rings.enter(0);
+        check.tagsFrom("enter with room for two", rings, 3, 3, 3);
+        rings.tick();
+        check.tagsFrom("tick without room", rings, 3, 3, 3);
+        rings.pop();
+        rings.tick();
+        check.tagsFrom("tick with room for one", rings, 4, 3, 2);
+        pops(rings, 3);
+        rings.tick();
+        check.tagsFrom("tick with more room than is needed", rings, 7, 2, 0);
+    }
+
+    private static void successorsAreCanceledWithoutADeviceEffect(Check check) {
+        for (int latency = 0; latency <= 4; latency++) {
+            AsyncRings rings = new AsyncRings(16, 16, latency);
+            fillBlocks(rings, 500);
+            fillBuffers(rings, 10);
+            String memory = Snapshot.memory(rings);
+            rings.prep(CMP + LINK, 0, 0, 1);
+            rings.prep(WRITE + LINK, 1, 1, 2);
+            rings.prep(READ, 2, 2, 3);
+            rings.prep(TIMEOUT + LINK, 9, 0, 4);
+            rings.prep(WRITE + LINK, 3, 3, 5);
+            rings.prep(READ, 4, 4, 6);
+            rings.enter(6);
+            ticks(rings, 8);
+            check.completions("failed", rings, 0, 1, MISMATCH, 2, CANCELED, 3, CANCELED);
+            rings.prep(CANCEL, 4, 0, 7);
+            rings.enter(1);
+            ticks(rings, 8);
+            check.completions("failed and canceled", rings, 0, 1, MISMATCH, 2, CANCELED, 3, CANCELED,
+                    4, CANCELED, 5, CANCELED, 6, CANCELED, 7, 1);
+            check.yes("the memory is as before", memory.equals(Snapshot.memory(rings)));
+        }
+    }
+
+    private static void atMaxOwedNothingIsTaken(Check check) {
+        for (int live = 0; live <= 32; live++) {
+            AsyncRings rings = owing(live, 32 - live);
+            String what = live + " live and " + (32 - live) + " parked";
+            check.same(what + ": liveCount()", rings.liveCount(), live);
+            check.same(what + ": overflowCount()", rings.overflowCount(), 32 - live);
+            for (int i = 0; i < 3; i++) {
+                rings.prep(NOP, 0, 0, 9);
+            }
+            String before = Snapshot.of(rings);
+            check.same(what + ": enter(1)", rings.enter(1), 0);
+            check.same(what + ": enter(MAX_VALUE)", rings.enter(MAX), 0);
+            check.shows(what + ": the entries stay", rings, before);
+        }
+    }
+
+    private static void atMaxOwedLessOneIsTaken(Check check) {
+        for (int live = 0; live <= 31; live++) {
+            AsyncRings rings = owing(live, 31 - live);
+            String what = live + " live and " + (31 - live) + " parked";
+            for (int i = 0; i < 3; i++) {
+                rings.prep(TIMEOUT, 5, 0, 7 + i);
+            }
+            check.same(what + ": enter(3)", rings.enter(3), 1);
+            check.same(what + ": sqPending()", rings.sqPending(), 2);
+            check.same(what + ": liveCount()", rings.liveCount(), live + 1);
+            check.same(what + ": liveTag of the last", rings.liveTag(live), 7);
+            check.same(what + ": overflowCount()", rings.overflowCount(), 31 - live);
+        }
+    }
+
+    private static void noCompletionIsDropped(Check check) {
+        for (int c = 2; c <= 16; c++) {
+            AsyncRings rings = new AsyncRings(2, c, 0);
+            post(rings, 1, c + 32);
+            check.tagsFrom("CQ of " + c + ", the most there can be", rings, 1, c, 32);
+            for (int tag = 1; tag <= c + 32; tag++) {
+                check.same("CQ of " + c + ": the oldest", rings.cqTag(0), tag);
+                check.yes("CQ of " + c + ": pop()", rings.pop());
+                rings.tick();
+            }
+            check.tagsFrom("CQ of " + c + ", all seen", rings, 0, 0, 0);
+        }
+        // All that can be live is posted at once, beside a full CQ.
+        AsyncRings rings = new AsyncRings(2, 2, 0);
+        post(rings, 1, 2);
+        timers(rings, 3, 32);
+        check.same("liveCount()", rings.liveCount(), 32);
+        ticks(rings, 16);
+        check.tagsFrom("32 at once", rings, 1, 2, 32);
+    }
+
+    private static void zeroIsASuccess(Check check) {
+        AsyncRings rings = new AsyncRings(16, 16, 0);
+        rings.prep(TIMEOUT, 9, 0, 1);
+        rings.prep(CANCEL + LINK, 1, 0, 2);
+        rings.prep(NOP + LINK, 0, 0, 3);
+        rings.prep(CANCEL + LINK, 1, 0, 4);
+        rings.prep(NOP, 0, 0, 5);
+        rings.prep(6 + LINK, 0, 0, 6);
+        rings.prep(NOP, 0, 0, 7);
+        rings.prep(CMP + LINK, 0, 1, 8);
+        rings.prep(NOP, 0, 0, 9);
+        rings.enter(9);
+        check.completions("1 and 0 go on, -2, -22 and -74 do not", rings, 0, 1, CANCELED, 2, 1, 3, OK, 4, NOENT,
+                5, CANCELED, 6, INVALID, 7, CANCELED, 8, MISMATCH, 9, CANCELED);
+    }
+
+    public static void main(String[] args) {
+        Check check = new Check("What it is");
+        check.sentence("If that ring is full, or earlier completions are still parked, it goes instead onto a"
+                + " kernel-side overflow list.", WhatItIsTest::aFullRingParks);
+        check.sentence("At the start of each enter or tick, the oldest completions of that list are moved into the CQ,"
+                + " in order, only as far as the CQ has room.", WhatItIsTest::parkedOnesMoveAsFarAsThereIsRoom);
+        check.sentence("A failed or canceled request posts its chain successors as canceled, without touching the"
+                + " device.", WhatItIsTest::successorsAreCanceledWithoutADeviceEffect);
+        check.sentence("The kernel takes no new entry while the live requests plus the parked completions have already"
+                + " reached MAX_OWED (sum >= MAX_OWED)", WhatItIsTest::atMaxOwedNothingIsTaken);
+        check.sentence("at MAX_OWED - 1 one more entry is still taken.", WhatItIsTest::atMaxOwedLessOneIsTaken);
+        check.sentence("No completion is ever dropped: POST always writes it into the CQ or appends it to the overflow"
+                + " list.", WhatItIsTest::noCompletionIsDropped);
+        check.sentence("A result >= 0 counts as success; a result < 0 counts as failure.",
+                WhatItIsTest::zeroIsASuccess);
+        check.end();
+    }
+}
