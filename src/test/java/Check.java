@@ -89,20 +89,37 @@ final class Check {
         yes(what + " (was " + before + ", is " + now + ")", now.equals(before));
     }
 
-    /** The two objects show the same now and through further calls, so what cannot be seen is the same in both too. */
+    /**
+     * The two objects show the same now and through further calls, so what cannot be seen is the same in both too. No
+     * kind of call comes before its time: first the entries that are there are used up, then the CQ is filled, then it
+     * is emptied, so that a call that would be refused at once cannot undo the difference that an earlier one made.
+     */
     void alike(String what, AsyncRings one, AsyncRings other) {
         shows(what, one, Snapshot.of(other));
+        for (int round = 0; round < 10; round++) {
+            same(what + ": enter(2) later", one.enter(2), other.enter(2));
+            shows(what + ": after a later enter(2)", one, Snapshot.of(other));
+            same(what + ": tick() later", one.tick(), other.tick());
+            shows(what + ": after a later tick()", one, Snapshot.of(other));
+        }
         for (int round = 0; round < 40; round++) {
+            prepAndEnter(what, one, other, round);
+        }
+        for (int round = 0; round < 60; round++) {
             yes(what + ": pop() later", one.pop() == other.pop());
             shows(what + ": after a later pop()", one, Snapshot.of(other));
             same(what + ": tick() later", one.tick(), other.tick());
             shows(what + ": after a later tick()", one, Snapshot.of(other));
-            int opFlags = round % 4 == 0 ? AsyncRings.OP_TIMEOUT : AsyncRings.OP_READ;
-            boolean taken = one.prep(opFlags, 1 + round % 5, round % 8, 700 + round);
-            yes(what + ": prep() later", taken == other.prep(opFlags, 1 + round % 5, round % 8, 700 + round));
-            same(what + ": enter(2) later", one.enter(2), other.enter(2));
-            shows(what + ": after a later enter(2)", one, Snapshot.of(other));
         }
+    }
+
+    private void prepAndEnter(String what, AsyncRings one, AsyncRings other, int round) {
+        int opFlags = round % 3;
+        int a = round % 16;
+        int b = round % 8;
+        yes(what + ": prep() later", one.prep(opFlags, a, b, round) == other.prep(opFlags, a, b, round));
+        same(what + ": enter(1) later", one.enter(1), other.enter(1));
+        shows(what + ": after a later enter(1)", one, Snapshot.of(other));
     }
 
     void end() {

@@ -4,7 +4,7 @@ public final class ModelTest {
     private static final int CALLS = 300;
     private static final int[] EDGES = {Integer.MIN_VALUE, -1, 0, 7, 8, 15, 16, 17, Integer.MAX_VALUE};
 
-    private final Check check = new Check("Long runs");
+    private final Check check;
     private long seed;
     private AsyncRings rings;
     private Model model;
@@ -13,6 +13,10 @@ public final class ModelTest {
     private int popShare;
     private int linkShare;
     private int tags;
+
+    private ModelTest(Check check) {
+        this.check = check;
+    }
 
     private int below(int bound) {
         seed = seed * 6364136223846793005L + 1442695040888963407L;
@@ -100,13 +104,18 @@ public final class ModelTest {
         return !lost;
     }
 
-    public static void main(String[] args) {
-        ModelTest test = new ModelTest();
+    private static void everyRun(Check check) {
+        ModelTest test = new ModelTest(check);
         int number = 1;
         while (number <= RUNS && test.run(number)) {
             number++;
         }
-        test.check.yes("every run went as the model", !test.lost);
-        test.check.end();
+        check.no("a run went otherwise than the model", test.lost);
+    }
+
+    public static void main(String[] args) {
+        Check check = new Check("Promises 1 to 11");
+        check.sentence("all sentences together, in long mixed runs", ModelTest::everyRun);
+        check.end();
     }
 }

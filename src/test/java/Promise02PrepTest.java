@@ -18,7 +18,7 @@ public final class Promise02PrepTest extends Scenes {
 
     private static void aFullRingRefuses(Check check) {
         for (int s = 2; s <= 16; s++) {
-            for (int first = 0; first <= s; first++) {
+            for (int first = 0; first <= 17; first++) {
                 AsyncRings rings = full(s, first);
                 check.same("sqPending() of " + s, rings.sqPending(), s);
                 check.no("prep on a full ring of " + s, rings.prep(NOP, 5, 6, 999));
@@ -32,8 +32,8 @@ public final class Promise02PrepTest extends Scenes {
         for (int s = 2; s <= 16; s++) {
             AsyncRings rings = new AsyncRings(s, 16, 0);
             int written = 0;
-            for (int seen = 0; seen < 4 * s; seen++) {
-                while (rings.sqPending() < s) {
+            for (int seen = 0; seen < 40; seen++) {
+                for (int free = s - rings.sqPending(); free > 0; free--) {
                     int opFlags = written % 3 == 0 ? TIMEOUT : 0xFFFFFFE0 | CMP;
                     rings.prep(opFlags, 1 + written % 15, written % 3 == 1 ? 0 : written, 100 + written);
                     written++;
@@ -127,6 +127,7 @@ public final class Promise02PrepTest extends Scenes {
 
     private static void nothingElseChanges(Check check) {
         AsyncRings rings = busy();
+        stillBusy(check, "after the calls of prep that went before", rings);
         String before = Snapshot.besideSq(rings);
         for (int i = 0; i < 4; i++) {
             // Two are taken, two are refused.

@@ -47,15 +47,17 @@ public final class Promise03EnterTest extends Scenes {
         for (int s = 2; s <= 16; s++) {
             AsyncRings rings = new AsyncRings(s, 2, 1);
             int tag = 1;
-            for (int round = 0; round < 3 * s; round++) {
-                while (rings.sqPending() < s) {
+            for (int round = 0; round < 40; round++) {
+                for (int free = s - rings.sqPending(); free > 0; free--) {
                     rings.prep(TIMEOUT + LINK, 16, 0, tag);
                     tag++;
                 }
                 rings.enter(2);
                 // The second one is WAITING behind the first, which has the smaller sequence number.
                 check.live("round " + round + " of " + s, rings, 2 * round + 1, 33, 2 * round + 2, 0);
-                ticks(rings, 32);
+                ticks(rings, 16);
+                check.live("round " + round + " of " + s + ", the first is done", rings, 2 * round + 2, 32);
+                ticks(rings, 16);
                 pops(rings, 2);
             }
         }
@@ -64,8 +66,8 @@ public final class Promise03EnterTest extends Scenes {
     private static void theHeadGrowsByOneForEach(Check check) {
         AsyncRings rings = new AsyncRings(16, 16, 0);
         for (int n = 1; n <= 16; n++) {
-            while (rings.prep(NOP, 0, 0, 1)) {
-                continue;
+            for (int free = 16 - rings.sqPending(); free > 0; free--) {
+                rings.prep(NOP, 0, 0, 1);
             }
             check.same("enter(" + n + ")", rings.enter(n), n);
             check.same("sqPending() after enter(" + n + ")", rings.sqPending(), 16 - n);
@@ -192,11 +194,13 @@ public final class Promise03EnterTest extends Scenes {
         rings.prep(NOP, 0, 0, 2);
         rings.prep(READ + LINK, 0, 0, 3);
         rings.prep(NOP, 0, 0, 4);
-        rings.prep(CANCEL, 3, 0, 5);
-        rings.prep(NOP, 0, 0, 6);
-        // Neither what is posted nor what stays live makes a difference.
+        rings.prep(TIMEOUT, 9, 0, 5);
+        rings.prep(CANCEL, 3, 0, 6);
+        // Neither what is posted nor what stays live makes a difference: two are posted at first, then three.
         check.same("enter(5)", rings.enter(5), 5);
+        check.same("liveCount()", rings.liveCount(), 3);
         check.same("enter(5) with one left", rings.enter(5), 1);
+        check.same("liveCount()", rings.liveCount(), 1);
         check.same("enter(5) with none left", rings.enter(5), 0);
     }
 

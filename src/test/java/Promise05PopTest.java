@@ -83,6 +83,7 @@ public final class Promise05PopTest extends Scenes {
 
     private static void nothingElseChanges(Check check) {
         AsyncRings rings = busy();
+        stillBusy(check, "after the calls of pop that went before", rings);
         String memory = Snapshot.memory(rings);
         for (int popped = 1; popped <= 3; popped++) {
             // The third one is refused.

@@ -1,10 +1,13 @@
+import java.util.function.IntUnaryOperator;
+
 /** Promise 7: cqTag and cqResult see the CQ and then the overflow list, and answer 0 for any other index. */
 public final class Promise07CompletionsTest extends Scenes {
-    /** An object with a CQ of c that has been gone through by first, and then holds failures with the tags 1, 2, .. */
-    private static AsyncRings failures(int c, int first, int count) {
+    /** An object that holds failures with the tags 1, 2, .. after so many others that have been taken away. */
+    private static AsyncRings failures(int c, int before, int count) {
         AsyncRings rings = new AsyncRings(2, c, 0);
-        for (int i = 0; i < first; i++) {
-            post(rings, 5000 + i, 1);
+        for (int i = 0; i < before; i++) {
+            rings.prep(15, 0, 0, 5000 + i);
+            rings.enter(1);
             rings.pop();
         }
         for (int tag = 1; tag <= count; tag++) {
@@ -16,7 +19,7 @@ public final class Promise07CompletionsTest extends Scenes {
 
     private static void ringPlaces(Check check) {
         for (int c = 2; c <= 16; c++) {
-            for (int first = 0; first <= c; first++) {
+            for (int first = 0; first <= 60; first++) {
                 AsyncRings rings = failures(c, first, c);
                 for (int k = 0; k < c; k++) {
                     check.same("cqTag(" + k + ") of " + c + " from " + first, rings.cqTag(k), 1 + k);
@@ -43,43 +46,31 @@ public final class Promise07CompletionsTest extends Scenes {
         }
     }
 
-    /** Every index beside 0 .. count - 1, as far as it may matter to an array, and the farthest. */
-    private static void otherTags(Check check, AsyncRings rings, int count) {
+    /** Every index beside 0 .. count - 1 answers 0: all that may matter to an array, and the farthest. */
+    private static void zeroBeside(Check check, String name, IntUnaryOperator ask, int count) {
         for (int k = -60; k < 120; k++) {
             if (k < 0 || k >= count) {
-                check.same("cqTag(" + k + ") of " + count, rings.cqTag(k), 0);
+                check.same(name + "(" + k + ") of " + count, ask.applyAsInt(k), 0);
             }
         }
-        int[] far = {MIN, MIN + 1, -48, 65536, 1 << 30, MAX - 1, MAX};
+        int[] far = {MIN, MIN + 1, 65536, 1 << 30, MAX - 1, MAX};
         for (int k : far) {
-            check.same("cqTag(" + k + ") of " + count, rings.cqTag(k), 0);
-        }
-    }
-
-    private static void otherResults(Check check, AsyncRings rings, int count) {
-        for (int k = -60; k < 120; k++) {
-            if (k < 0 || k >= count) {
-                check.same("cqResult(" + k + ") of " + count, rings.cqResult(k), 0);
-            }
-        }
-        int[] far = {MIN, MIN + 1, -48, 65536, 1 << 30, MAX - 1, MAX};
-        for (int k : far) {
-            check.same("cqResult(" + k + ") of " + count, rings.cqResult(k), 0);
+            check.same(name + "(" + k + ") of " + count, ask.applyAsInt(k), 0);
         }
     }
 
     private static void otherTagsAreZero(Check check) {
-        otherTags(check, new AsyncRings(2, 2, 0), 0);
+        zeroBeside(check, "cqTag", new AsyncRings(2, 2, 0)::cqTag, 0);
         for (int count = 0; count <= 36; count++) {
-            AsyncRings rings = failures(4, 0, count);
-            otherTags(check, rings, count);
+            // What was taken away before may have left something behind in every place.
+            AsyncRings rings = failures(4, 60, count);
+            zeroBeside(check, "cqTag", rings::cqTag, count);
             rings.pop();
-            otherTags(check, rings, Math.max(0, count - 1));
+            zeroBeside(check, "cqTag", rings::cqTag, Math.max(0, count - 1));
         }
-        // What was there and has been taken is not seen any more.
         AsyncRings emptied = failures(4, 9, 4);
         pops(emptied, 4);
-        otherTags(check, emptied, 0);
+        zeroBeside(check, "cqTag", emptied::cqTag, 0);
     }
 
     private static void resultAndTagBelongTogether(Check check) {
@@ -101,20 +92,17 @@ public final class Promise07CompletionsTest extends Scenes {
     }
 
     private static void otherResultsAreZero(Check check) {
-        otherResults(check, new AsyncRings(2, 2, 0), 0);
+        zeroBeside(check, "cqResult", new AsyncRings(2, 2, 0)::cqResult, 0);
         for (int count = 0; count <= 36; count++) {
-            AsyncRings rings = failures(4, 0, count);
-            otherResults(check, rings, count);
+            // What was taken away before may have left something behind in every place.
+            AsyncRings rings = failures(4, 60, count);
+            zeroBeside(check, "cqResult", rings::cqResult, count);
             rings.pop();
-            otherResults(check, rings, Math.max(0, count - 1));
+            zeroBeside(check, "cqResult", rings::cqResult, Math.max(0, count - 1));
         }
-        AsyncRings emptied = new AsyncRings(4, 4, 0);
-        for (int i = 0; i < 100; i++) {
-            emptied.prep(15, 0, 0, 1);
-            emptied.enter(1);
-            emptied.pop();
-        }
-        otherResults(check, emptied, 0);
+        AsyncRings emptied = failures(4, 9, 4);
+        pops(emptied, 4);
+        zeroBeside(check, "cqResult", emptied::cqResult, 0);
     }
 
     private static void askingChangesNothing(Check check) {

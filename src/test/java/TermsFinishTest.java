@@ -177,20 +177,24 @@ public final class TermsFinishTest extends Scenes {
         int[] tags = {MIN, -1, 0, 5, MAX};
         for (int tag : tags) {
             AsyncRings rings = new AsyncRings(16, 16, 2);
-            rings.prep(TIMEOUT, 9, 0, tag);
+            // Each target has a successor of its own, by which the order of the targets can be seen.
+            rings.prep(TIMEOUT + LINK, 9, 0, tag);
+            rings.prep(NOP, 0, 0, 101);
             rings.prep(READ, 0, 0, tag ^ 1);
-            rings.prep(WRITE, 0, 0, tag);
+            rings.prep(WRITE + LINK, 0, 0, tag);
+            rings.prep(NOP, 0, 0, 102);
             rings.prep(CMP, 0, 0, tag ^ MIN);
-            rings.enter(4);
+            rings.enter(6);
             post(rings, tag, 1);
-            rings.prep(READ, 0, 0, tag);
-            rings.enter(1);
+            rings.prep(READ + LINK, 0, 0, tag);
+            rings.prep(NOP, 0, 0, 103);
+            rings.enter(2);
             rings.prep(CANCEL, tag, 0, 77);
             // This one comes after the cancel, so it is not there yet when the targets are taken.
             rings.prep(READ, 0, 0, tag);
             rings.enter(2);
-            check.completions("cancel of " + tag, rings, 0, tag, OK, tag, CANCELED, tag, CANCELED, tag, CANCELED,
-                    77, 3);
+            check.completions("cancel of " + tag, rings, 0, tag, OK, tag, CANCELED, 101, CANCELED, tag, CANCELED,
+                    102, CANCELED, tag, CANCELED, 103, CANCELED, 77, 3);
             check.live("cancel of " + tag, rings, tag ^ 1, 4, tag ^ MIN, 4, tag, 4);
         }
     }

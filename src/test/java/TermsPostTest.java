@@ -25,7 +25,7 @@ public final class TermsPostTest extends Scenes {
 
     private static void thereIsRoomUpToC(Check check) {
         for (int c = 2; c <= 16; c++) {
-            for (int first = 0; first <= c; first++) {
+            for (int first = 0; first <= 50; first++) {
                 AsyncRings rings = new AsyncRings(16, c, 0);
                 for (int i = 0; i < first; i++) {
                     post(rings, 1, 1);

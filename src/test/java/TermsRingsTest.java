@@ -28,7 +28,8 @@ public final class TermsRingsTest extends Scenes {
                 check.same(what + ": completions that fit", rings.cqReady(), Math.min(size, 18 - size));
                 post(rings, 1, 17);
                 check.same(what + ": completions that fit", rings.cqReady(), 18 - size);
-                while (rings.pop()) {
+                for (int i = 0; i < 48; i++) {
+                    rings.pop();
                     rings.enter(0);
                 }
             }
@@ -62,7 +63,7 @@ public final class TermsRingsTest extends Scenes {
                 for (int tag = 1; tag < held; tag++) {
                     rings.prep(CANCEL, 0, 0, tag);
                 }
-                for (int tag = held; tag <= held + 3 * s; tag++) {
+                for (int tag = held; tag <= held + 50; tag++) {
                     rings.prep(CANCEL, 0, 0, tag);
                     rings.enter(1);
                     check.completions("SQ of " + s + " with " + held, rings, 0, tag - held + 1, NOENT);
@@ -119,10 +120,12 @@ public final class TermsRingsTest extends Scenes {
             rings.prep(bits | TIMEOUT, 4, 0, 5);
             rings.prep(bits | CANCEL, 9, 0, 6);
             rings.prep(bits | 6, 0, 0, 7);
-            rings.prep(bits | 15, 0, 0, 8);
-            rings.enter(8);
+            rings.prep(bits | 8, 0, 0, 8);
+            rings.prep(bits | 13, 0, 0, 9);
+            rings.prep(bits | 15, 0, 0, 10);
+            rings.enter(10);
             check.completions("with the bits " + bits, rings, 0, 1, OK, 2, OK, 3, OK, 4, MISMATCH, 6, NOENT,
-                    7, INVALID, 8, INVALID);
+                    7, INVALID, 8, INVALID, 9, INVALID, 10, INVALID);
             check.live("with the bits " + bits, rings, 5, 8);
             check.same("getBlock(2) with the bits " + bits, rings.getBlock(2), 7);
             check.same("getBuffer(3) with the bits " + bits, rings.getBuffer(3), 7);

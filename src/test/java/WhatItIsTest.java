@@ -1,5 +1,38 @@
 /** The sentences of "What it is" that name an edge. */
 public final class WhatItIsTest extends Scenes {
+    private static void theSubmissionRingIsBounded(Check check) {
+        for (int s = 2; s <= 16; s++) {
+            AsyncRings rings = new AsyncRings(s, 2, 0);
+            for (int i = 1; i <= s + 20; i++) {
+                check.same("prep number " + i + " of " + s, rings.prep(NOP, 0, 0, i) ? 1 : 0, i <= s ? 1 : 0);
+            }
+        }
+    }
+
+    private static void eachPostsOneCompletion(Check check) {
+        int[] opFlags = {NOP, READ, WRITE, CMP, TIMEOUT, CANCEL, 6, 15};
+        for (int opFlag : opFlags) {
+            AsyncRings rings = new AsyncRings(2, 4, 2);
+            rings.prep(opFlag, 1, 1, 8);
+            rings.enter(1);
+            ticks(rings, 2);
+            check.tagsFrom("opcode " + opFlag, rings, 8, 1, 0);
+            check.live("opcode " + opFlag, rings);
+            ticks(rings, 20);
+            check.tagsFrom("opcode " + opFlag + " much later", rings, 8, 1, 0);
+        }
+    }
+
+    private static void theCompletionRingIsBounded(Check check) {
+        for (int c = 2; c <= 16; c++) {
+            AsyncRings rings = new AsyncRings(2, c, 0);
+            for (int i = 1; i <= c + 20; i++) {
+                post(rings, i, 1);
+                check.same("cqReady() of " + c + " after " + i, rings.cqReady(), Math.min(c, i));
+            }
+        }
+    }
+
     private static void aFullRingParks(Check check) {
         for (int c = 2; c <= 16; c++) {
             AsyncRings rings = new AsyncRings(2, c, 0);
@@ -127,6 +160,12 @@ public final class WhatItIsTest extends Scenes {
 
     public static void main(String[] args) {
         Check check = new Check("What it is");
+        check.sentence("The process writes request entries into a bounded submission ring (SQ).",
+                WhatItIsTest::theSubmissionRingIsBounded);
+        check.sentence("Each finished request posts one completion (tag, result).",
+                WhatItIsTest::eachPostsOneCompletion);
+        check.sentence("The completion goes into a bounded completion ring (CQ).",
+                WhatItIsTest::theCompletionRingIsBounded);
         check.sentence("If that ring is full, or earlier completions are still parked, it goes instead onto a"
                 + " kernel-side overflow list.", WhatItIsTest::aFullRingParks);
         check.sentence("At the start of each enter or tick, the oldest completions of that list are moved into the CQ,"
