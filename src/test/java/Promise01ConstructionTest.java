@@ -149,8 +149,40 @@ public final class Promise01ConstructionTest extends Scenes {
         check.alike("a new object beside a busy one", fresh, new AsyncRings(4, 4, 0));
     }
 
+    /** The three sizes of one and the same object. */
+    private static void sizes(Check check, AsyncRings rings, int s, int c, int l) {
+        String what = "due are " + s + ", " + c + " and " + l;
+        rings.prep(READ, 0, 0, 1);
+        rings.enter(1);
+        check.same(what + ": ticks of a read", rings.liveCount() == 0 ? 0 : rings.liveState(0) / 2, l);
+        int fit = 0;
+        while (fit < 100 && rings.prep(NOP, 0, 0, 1)) {
+            fit++;
+        }
+        check.same(what + ": entries that fit", fit, s);
+        rings.enter(fit);
+        post(rings, 1, 16);
+        check.same(what + ": completions that fit", rings.cqReady(), c);
+    }
+
+    private static void eachArgumentSetsItsOwnSize(Check check) {
+        for (int s = 2; s <= 16; s++) {
+            for (int c = 2; c <= 16; c++) {
+                for (int l = 0; l <= 4; l++) {
+                    sizes(check, new AsyncRings(s, c, l), s, c, l);
+                }
+            }
+        }
+        sizes(check, new AsyncRings(MIN, MAX, MIN), 2, 16, 0);
+        sizes(check, new AsyncRings(MAX, MIN, MAX), 16, 2, 4);
+        sizes(check, new AsyncRings(1, 17, 5), 2, 16, 4);
+        sizes(check, new AsyncRings(17, 1, -1), 16, 2, 0);
+    }
+
     public static void main(String[] args) {
         Check check = new Check("Promise 1");
+        check.sentence("AsyncRings(sqSize, cqSize, latency) sets S = sqSize, C = cqSize and L = latency, each"
+                + " clamped.", Promise01ConstructionTest::eachArgumentSetsItsOwnSize);
         check.sentence("A value below the least allowed becomes the least;",
                 Promise01ConstructionTest::tooSmallBecomesTheLeast);
         check.sentence("a value above the greatest becomes the greatest.",

@@ -137,8 +137,25 @@ public final class Promise02PrepTest extends Scenes {
         }
     }
 
+    private static void eachCallWritesOneEntry(Check check) {
+        for (int s = 2; s <= 16; s++) {
+            for (int written = 1; written <= s; written++) {
+                AsyncRings rings = new AsyncRings(s, 16, 0);
+                for (int i = 1; i <= written; i++) {
+                    rings.prep(NOP, 0, 0, i);
+                }
+                String what = written + " written into an SQ of " + s;
+                check.same(what + ": sqPending()", rings.sqPending(), written);
+                check.same(what + ": enter(16)", rings.enter(16), written);
+                check.tagsFrom(what, rings, 1, written, 0);
+            }
+        }
+    }
+
     public static void main(String[] args) {
         Check check = new Check("Promise 2");
+        check.sentence("prep(opFlags, a, b, tag) is the process writing one SQ entry and advancing the SQ tail.",
+                Promise02PrepTest::eachCallWritesOneEntry);
         check.sentence("Ring full (sqTail - sqHead == S): answers false and nothing changes.",
                 Promise02PrepTest::aFullRingRefuses);
         check.sentence("SQ slot (sqTail mod S) gets (opFlags, a, b, tag) exactly as given;",

@@ -322,14 +322,68 @@ public final class Promise03EnterTest extends Scenes {
         }
     }
 
+    private static void theStepsComeInThisOrder(Check check) {
+        // The flush comes before the entries are taken: it makes room for two of them.
+        AsyncRings flushed = owing(0, 32);
+        pops(flushed, 2);
+        // All entries are taken before the first is started: that two NOPs would make room again comes too late.
+        AsyncRings live = owing(31, 0);
+        for (int i = 1; i <= 3; i++) {
+            flushed.prep(TIMEOUT, 5, 0, i);
+            live.prep(NOP, 0, 0, i);
+        }
+        check.same("enter(3) with 32 parked and room for two", flushed.enter(3), 2);
+        check.live("two are taken", flushed, 1, 10, 2, 10);
+        check.same("enter(3) with 31 live", live.enter(3), 1);
+        check.tagsFrom("one is taken", live, 1, 1, 0);
+        // The links are made before the first is started: a failure of the first finds its successor.
+        AsyncRings linked = new AsyncRings(4, 4, 0);
+        linked.prep(15 + LINK, 0, 0, 1);
+        linked.prep(NOP, 0, 0, 2);
+        linked.enter(2);
+        check.completions("linked", linked, 0, 1, INVALID, 2, CANCELED);
+    }
+
+    private static void everyCallCountsFromZero(Check check) {
+        for (int n = 1; n <= 4; n++) {
+            AsyncRings rings = new AsyncRings(16, 16, 0);
+            for (int i = 1; i <= 16; i++) {
+                rings.prep(NOP, 0, 0, i);
+            }
+            for (int call = 1; call <= 4; call++) {
+                check.same("enter(" + n + ") number " + call, rings.enter(n), n);
+                check.same("sqPending()", rings.sqPending(), 16 - call * n);
+                check.tagsFrom("after enter(" + n + ") number " + call, rings, 1, call * n, 0);
+            }
+        }
+    }
+
+    private static void everyEntryCountsAsOne(Check check) {
+        // One that ends at once, one that stays, a chain, a failure with its chain, and a cancel.
+        int[] opFlags = {NOP, TIMEOUT, TIMEOUT + LINK, NOP, 15 + LINK, NOP + LINK, NOP, CANCEL, -1};
+        for (int n = 1; n <= opFlags.length; n++) {
+            AsyncRings rings = new AsyncRings(16, 16, 0);
+            for (int i = 0; i < opFlags.length; i++) {
+                rings.prep(opFlags[i], 5, 0, i);
+            }
+            check.same("enter(" + n + ")", rings.enter(n), n);
+            check.same("sqPending() after enter(" + n + ")", rings.sqPending(), opFlags.length - n);
+            check.same("all that were taken", rings.liveCount() + rings.cqReady(), n);
+        }
+    }
+
     public static void main(String[] args) {
         Check check = new Check("Promise 3");
+        check.sentence("enter(n) is the kernel consuming and starting entries. It does the following, in this order.",
+                Promise03EnterTest::theStepsComeInThisOrder);
         check.sentence("1. FLUSH.", Promise03EnterTest::flushComesFirst);
+        check.sentence("Set k = 0.", Promise03EnterTest::everyCallCountsFromZero);
         check.sentence("While k < n, sqHead != sqTail, and liveCount() + overflowCount() < MAX_OWED:",
                 Promise03EnterTest::theLeastOfThreeLimitsHolds);
         check.sentence("the entry at SQ slot (sqHead mod S) becomes a new WAITING request with the next sequence"
                 + " number;", Promise03EnterTest::theOldestEntryIsTaken);
         check.sentence("sqHead grows by 1;", Promise03EnterTest::theHeadGrowsByOneForEach);
+        check.sentence("k grows by 1.", Promise03EnterTest::everyEntryCountsAsOne);
         check.sentence("If n <= 0, nothing is consumed.", Promise03EnterTest::nothingIsConsumedForNoneOrLess);
         check.sentence("Each request consumed in this call whose link is true gets as successor the request consumed"
                 + " right after it.", Promise03EnterTest::aLinkReachesTheNextOne);

@@ -187,8 +187,37 @@ public final class Promise04TickTest extends Scenes {
         check.tagsFrom("the entries were left as they are", rings, 1, 4, 0);
     }
 
+    private static void onlyATickLetsTimePass(Check check) {
+        AsyncRings rings = new AsyncRings(4, 4, 2);
+        rings.prep(TIMEOUT, 16, 0, 1);
+        rings.prep(READ, 0, 0, 2);
+        rings.enter(2);
+        for (int i = 0; i < 20; i++) {
+            rings.prep(NOP, 0, 0, 3);
+            rings.enter(1);
+            rings.pop();
+            rings.setBuffer(0, i);
+        }
+        check.live("no time has passed", rings, 1, 32, 2, 4);
+        // The ticks are lowered before it is looked for what is due: a read of two ends in the second call.
+        check.same("the first tick()", rings.tick(), 0);
+        check.live("one unit has passed", rings, 1, 30, 2, 2);
+        check.same("the second tick()", rings.tick(), 1);
+        check.live("two units have passed", rings, 1, 28);
+        // The list is flushed first: its completions stay ahead of the one that this call posts.
+        AsyncRings flushed = new AsyncRings(4, 2, 0);
+        flushed.prep(TIMEOUT, 1, 0, 4);
+        flushed.enter(1);
+        post(flushed, 1, 3);
+        pops(flushed, 2);
+        check.same("tick() with one parked", flushed.tick(), 1);
+        check.tagsFrom("in the order of posting", flushed, 3, 2, 0);
+    }
+
     public static void main(String[] args) {
         Check check = new Check("Promise 4");
+        check.sentence("tick() is one unit of time passing. It does the following, in this order.",
+                Promise04TickTest::onlyATickLetsTimePass);
         check.sentence("1. FLUSH.", Promise04TickTest::flushComesFirst);
         check.sentence("Every request that is live and PENDING at this moment has its remaining ticks lowered by 1.",
                 Promise04TickTest::everyPendingOneIsLowered);

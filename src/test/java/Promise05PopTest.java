@@ -100,8 +100,26 @@ public final class Promise05PopTest extends Scenes {
         check.same("liveTag of the second entry", rings.liveTag(5), 52);
     }
 
+    private static void everyCompletionIsTakenOnce(Check check) {
+        for (int c = 2; c <= 16; c++) {
+            for (int count = 0; count <= c; count++) {
+                AsyncRings rings = new AsyncRings(2, c, 0);
+                post(rings, 1, count);
+                int taken = 0;
+                while (taken < 100 && rings.cqReady() > 0) {
+                    check.same("cqTag(0) of " + count, rings.cqTag(0), taken + 1);
+                    rings.pop();
+                    taken++;
+                }
+                check.same("calls of pop for " + count + " in a CQ of " + c, taken, count);
+            }
+        }
+    }
+
     public static void main(String[] args) {
         Check check = new Check("Promise 5");
+        check.sentence("pop() is the process consuming one completion from the CQ.",
+                Promise05PopTest::everyCompletionIsTakenOnce);
         check.sentence("CQ empty (cqTail == cqHead): answers false and nothing changes.",
                 Promise05PopTest::anEmptyRingRefuses);
         check.sentence("This holds even if the overflow list is not empty.",

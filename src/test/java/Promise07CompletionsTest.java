@@ -120,8 +120,27 @@ public final class Promise07CompletionsTest extends Scenes {
         onlyAsked(check, "cqResult", other);
     }
 
+    private static void theKthStillToBeSeen(Check check) {
+        for (int count = 1; count <= 35; count++) {
+            AsyncRings rings = failures(3, 2, count);
+            for (int seen = 0; seen < count; seen++) {
+                for (int k = 0; k < count - seen; k++) {
+                    String what = "cqTag(" + k + ") of " + count + " after " + seen;
+                    check.same(what, rings.cqTag(k), 1 + seen + k);
+                }
+                rings.pop();
+                // Every third one, so that the list is seen behind a CQ of any filling.
+                if (seen % 3 == 2) {
+                    rings.tick();
+                }
+            }
+        }
+    }
+
     public static void main(String[] args) {
         Check check = new Check("Promise 7");
+        check.sentence("cqTag(k) answers the tag of the k-th completion the process has still to see.",
+                Promise07CompletionsTest::theKthStillToBeSeen);
         check.sentence("for 0 <= k < R, it is the completion at CQ slot ((cqHead + k) mod C);",
                 Promise07CompletionsTest::ringPlaces);
         check.sentence("for R <= k < R + overflowCount(), it is the overflow completion at position k - R, where 0 is"

@@ -70,8 +70,34 @@ public final class Promise10BuffersTest extends Scenes {
         onlyAsked(check, "getBuffer", rings);
     }
 
+    private static void theProcessWritesAtAnyTime(Check check) {
+        for (int i = 0; i < 8; i++) {
+            AsyncRings rings = new AsyncRings(4, 4, 2);
+            rings.setBuffer(i, 1);
+            rings.prep(WRITE, 3, i, 1);
+            rings.setBuffer(i, 2);
+            rings.enter(1);
+            rings.setBuffer(i, 3);
+            rings.tick();
+            rings.setBuffer(i, 4);
+            rings.tick();
+            // What the buffer held when the write was executed is in the block, not what came before or after.
+            rings.setBuffer(i, 5);
+            check.same("getBlock(3) from buffer " + i, rings.getBlock(3), 4);
+            check.same("getBuffer(" + i + ")", rings.getBuffer(i), 5);
+            rings.prep(READ, 3, i, 2);
+            rings.enter(1);
+            ticks(rings, 2);
+            check.same("getBuffer(" + i + ") after a read", rings.getBuffer(i), 4);
+            rings.setBuffer(i, 6);
+            check.same("getBuffer(" + i + ") written over", rings.getBuffer(i), 6);
+        }
+    }
+
     public static void main(String[] args) {
         Check check = new Check("Promise 10, setBuffer");
+        check.sentence("setBuffer(i, v) is the process writing registered buffer i.",
+                Promise10BuffersTest::theProcessWritesAtAnyTime);
         check.sentence("If i < 0 or i >= BUFFERS: answers false and nothing changes.",
                 Promise10BuffersTest::aWrongIndexIsRefused);
         check.sentence("Otherwise: buffer[i] = v (any int value) and it answers true.",

@@ -252,6 +252,27 @@ public final class TermsFinishTest extends Scenes {
         }
     }
 
+    private static void itsArgumentIsWhatCounts(Check check) {
+        int[] any = {MIN, -1, 0, 7, 8, MAX};
+        for (int b : any) {
+            AsyncRings rings = filled(1);
+            String memory = Snapshot.memory(rings);
+            rings.prep(TIMEOUT, 9, 0, 3);
+            rings.prep(TIMEOUT, 9, 0, 4);
+            rings.prep(TIMEOUT, 9, 0, b);
+            rings.enter(3);
+            rings.prep(NOP, 0, 0, 3);
+            rings.prep(CANCEL, 3, b, 4);
+            // Neither its own tag nor its b chooses a target, and an entry that is only written is none.
+            rings.prep(TIMEOUT, 9, 0, 3);
+            rings.enter(2);
+            check.completions("cancel of 3 with b " + b, rings, 0, 3, OK, 3, CANCELED, 4, 1);
+            check.live("cancel of 3 with b " + b, rings, 4, 18, b, 18);
+            check.same("sqPending()", rings.sqPending(), 1);
+            check.yes("the memory is as before", memory.equals(Snapshot.memory(rings)));
+        }
+    }
+
     public static void main(String[] args) {
         Check check = new Check("Terms, EXECUTE");
         check.sentence("EXECUTE(r) does the device effect at this moment, then FINISH(r, res):",
@@ -272,6 +293,8 @@ public final class TermsFinishTest extends Scenes {
                 TermsFinishTest::noneOfTheRestIsStarted);
 
         check.part("Terms, CANCEL");
+        check.sentence("This is what executing a cancel request c with argument a does.",
+                TermsFinishTest::itsArgumentIsWhatCounts);
         check.sentence("The targets are the live PENDING requests whose tag == a, taken at this moment, in ascending"
                 + " sequence number.", TermsFinishTest::targetsArePendingOnesWithTheTag);
         check.sentence("WAITING requests are never targets.", TermsFinishTest::waitingOnesAreNoTargets);

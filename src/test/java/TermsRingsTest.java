@@ -211,6 +211,76 @@ public final class TermsRingsTest extends Scenes {
         check.live("after two", rings, 9, 3, 8, 0);
     }
 
+    private static void eachConsumedEntryBecomesARequest(Check check) {
+        for (int n = 1; n <= 16; n++) {
+            AsyncRings rings = new AsyncRings(16, 4, 1);
+            for (int i = 1; i <= 16; i++) {
+                rings.prep(TIMEOUT, 16, 0, i);
+                rings.tick();
+                rings.pop();
+                check.live("before enter there is none", rings);
+            }
+            rings.enter(n);
+            check.same("liveCount() after enter(" + n + ")", rings.liveCount(), n);
+            for (int k = 0; k < n; k++) {
+                check.same("liveTag(" + k + ") after enter(" + n + ")", rings.liveTag(k), 1 + k);
+            }
+        }
+    }
+
+    private static void aRequestKeepsItsArguments(Check check) {
+        for (int s = 2; s <= 16; s++) {
+            AsyncRings rings = new AsyncRings(s, 4, 1);
+            fillBuffers(rings, 10);
+            rings.prep(TIMEOUT + LINK, 1, 0, MIN);
+            rings.prep(WRITE, 5, 3, MAX);
+            rings.enter(2);
+            // The slots that the two stood in get other entries before the second one is started.
+            for (int i = 0; i < s; i++) {
+                rings.prep(READ, 6, 4, 9);
+            }
+            ticks(rings, 2);
+            check.completions("SQ of " + s, rings, 0, MIN, OK, MAX, OK);
+            for (int i = 0; i < 16; i++) {
+                check.same("SQ of " + s + ": getBlock(" + i + ")", rings.getBlock(i), i == 5 ? 13 : 0);
+            }
+        }
+    }
+
+    private static void waitingOrPendingWithTicks(Check check) {
+        AsyncRings rings = new AsyncRings(4, 4, 2);
+        rings.prep(READ + LINK, 0, 0, 1);
+        rings.prep(TIMEOUT, 3, 0, 2);
+        rings.enter(2);
+        int[] first = {5, 3};
+        for (int state : first) {
+            check.live("the second is WAITING", rings, 1, state, 2, 0);
+            rings.tick();
+        }
+        int[] second = {6, 4, 2};
+        for (int state : second) {
+            check.live("the second is PENDING", rings, 2, state);
+            rings.tick();
+        }
+        check.live("both are posted", rings);
+    }
+
+    private static void atMostOneSuccessor(Check check) {
+        AsyncRings rings = new AsyncRings(8, 8, 1);
+        for (int tag = 1; tag <= 4; tag++) {
+            rings.prep(READ + (tag < 4 ? LINK : 0), 0, 0, tag);
+        }
+        rings.prep(READ, 0, 0, 5);
+        rings.enter(5);
+        check.live("three with a successor, two without", rings, 1, 3, 2, 1, 3, 1, 4, 0, 5, 2);
+        rings.tick();
+        check.live("one is started, not all that follow", rings, 2, 3, 3, 1, 4, 0);
+        rings.tick();
+        check.live("and one more", rings, 3, 3, 4, 0);
+        rings.tick();
+        check.live("and the last", rings, 4, 2);
+    }
+
     public static void main(String[] args) {
         Check check = new Check("Terms, sizes and counters");
         check.sentence("S is the SQ capacity, C the CQ capacity, and L the device latency, all fixed by the"
@@ -223,10 +293,16 @@ public final class TermsRingsTest extends Scenes {
                 TermsRingsTest::entriesAreStoredAsGiven);
 
         check.part("Terms, request");
+        check.sentence("A request is made when the kernel consumes an SQ entry (see enter).",
+                TermsRingsTest::eachConsumedEntryBecomesARequest);
         check.sentence("opcode = opFlags & OP_MASK;", TermsRingsTest::opcodeIsInTheLowestBits);
         check.sentence("link = (opFlags & FLAG_LINK) != 0;", TermsRingsTest::linkIsOneBit);
+        check.sentence("a, b and tag;", TermsRingsTest::aRequestKeepsItsArguments);
         check.sentence("a sequence number, which is the consumption order over the object's whole life;",
                 TermsRingsTest::sequenceGoesOverTheWholeLife);
+        check.sentence("a state: WAITING, or PENDING with a count of remaining ticks;",
+                TermsRingsTest::waitingOrPendingWithTicks);
+        check.sentence("a successor: none, or one request.", TermsRingsTest::atMostOneSuccessor);
         check.sentence("A request is LIVE from its consumption until it is posted.",
                 TermsRingsTest::liveFromConsumptionToPost);
         check.sentence("Live requests are listed in ascending sequence number and numbered by live index 0, 1, ...",

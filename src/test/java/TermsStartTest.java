@@ -167,8 +167,49 @@ public final class TermsStartTest extends Scenes {
         refused(check, MAX, 0, 0);
     }
 
+    /** Such a request ends in the call that starts it: as a head, and behind one that ends in enter or in tick. */
+    private static void endsWhereItStarts(Check check, int latency, int opcode, int a, int result) {
+        String what = "opcode " + opcode + " with " + a + ", latency " + latency;
+        AsyncRings head = new AsyncRings(4, 4, latency);
+        head.prep(opcode, a, 0, 2);
+        head.enter(1);
+        check.completions(what + " in enter", head, 0, 2, result);
+        check.live(what + " in enter", head);
+        AsyncRings second = new AsyncRings(4, 4, latency);
+        second.prep(NOP + LINK, 0, 0, 1);
+        second.prep(opcode, a, 0, 2);
+        second.enter(2);
+        check.completions(what + " behind a NOP", second, 0, 1, OK, 2, result);
+        check.live(what + " behind a NOP", second);
+        AsyncRings later = new AsyncRings(4, 4, latency);
+        later.prep(TIMEOUT + LINK, 1, 0, 1);
+        later.prep(opcode, a, 0, 2);
+        later.enter(2);
+        check.same(what + ": tick()", later.tick(), 2);
+        check.completions(what + " in tick", later, 0, 1, OK, 2, result);
+        check.live(what + " in tick", later);
+    }
+
+    private static void immediateOnesEndInTheCallThatStartsThem(Check check) {
+        for (int latency = 0; latency <= 4; latency++) {
+            endsWhereItStarts(check, latency, NOP, 0, OK);
+            endsWhereItStarts(check, latency, READ, -1, INVALID);
+            endsWhereItStarts(check, latency, WRITE, 16, INVALID);
+            endsWhereItStarts(check, latency, CMP, -1, INVALID);
+            endsWhereItStarts(check, latency, TIMEOUT, 0, INVALID);
+            endsWhereItStarts(check, latency, CANCEL, 1, NOENT);
+            endsWhereItStarts(check, latency, 6, 0, INVALID);
+            endsWhereItStarts(check, latency, 15, 0, INVALID);
+        }
+        for (int opcode = READ; opcode <= CMP; opcode++) {
+            endsWhereItStarts(check, 0, opcode, 0, OK);
+        }
+    }
+
     public static void main(String[] args) {
         Check check = new Check("Terms, START");
+        check.sentence("A start that executes at once is called IMMEDIATE.",
+                TermsStartTest::immediateOnesEndInTheCallThatStartsThem);
         check.sentence("OP_NOP: immediate FINISH(r, RES_OK).", TermsStartTest::nopEndsAtOnce);
         check.sentence("if a < 0, a >= BLOCKS, b < 0 or b >= BUFFERS: immediate FINISH(r, ERR_INVALID);",
                 TermsStartTest::deviceArgumentsOutOfRange);

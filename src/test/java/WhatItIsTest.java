@@ -1,4 +1,4 @@
-/** The sentences of "What it is" that name an edge. */
+/** The sentences of "What it is". */
 public final class WhatItIsTest extends Scenes {
     private static void theSubmissionRingIsBounded(Check check) {
         for (int s = 2; s <= 16; s++) {
@@ -158,10 +158,113 @@ public final class WhatItIsTest extends Scenes {
                 5, CANCELED, 6, INVALID, 7, CANCELED, 8, MISMATCH, 9, CANCELED);
     }
 
+    private static void enterConsumesLinksAndStarts(Check check) {
+        AsyncRings rings = new AsyncRings(8, 8, 2);
+        rings.prep(READ + LINK, 0, 0, 1);
+        rings.prep(READ + LINK, 0, 1, 2);
+        rings.prep(READ, 0, 2, 3);
+        rings.prep(READ, 0, 3, 4);
+        rings.prep(READ + LINK, 0, 4, 5);
+        rings.prep(READ, 0, 5, 6);
+        rings.prep(NOP, 0, 0, 7);
+        check.live("written only", rings);
+        check.same("enter(7)", rings.enter(7), 7);
+        check.same("sqPending()", rings.sqPending(), 0);
+        check.live("only the heads are started", rings, 1, 5, 2, 1, 3, 0, 4, 4, 5, 5, 6, 0);
+        check.completions("the head that ends at once", rings, 0, 7, OK);
+        ticks(rings, 2);
+        check.live("each chain goes on by itself", rings, 2, 5, 3, 0, 6, 4);
+        check.completions("the heads are done", rings, 0, 7, OK, 1, OK, 4, OK, 5, OK);
+    }
+
+    /** A request with these arguments ends with this result after so many ticks, and not before. */
+    private static void ends(Check check, AsyncRings rings, int ticks, int opcode, int a, int b, int result) {
+        String what = "opcode " + opcode + " with " + a + " and " + b + ", latency " + ticks;
+        rings.prep(opcode, a, b, 6);
+        rings.enter(1);
+        for (int left = ticks; left > 0; left--) {
+            check.completions(what + ", " + left + " ticks before its end", rings, 0);
+            rings.tick();
+        }
+        check.completions(what, rings, 0, 6, result);
+        rings.pop();
+    }
+
+    private static void everyBlockIsReachedAfterTheLatency(Check check) {
+        for (int latency = 0; latency <= 4; latency++) {
+            AsyncRings rings = new AsyncRings(4, 4, latency);
+            for (int a = 0; a < 16; a++) {
+                int value = a % 2 == 0 ? MIN + a : MAX - a;
+                int from = a % 8;
+                int into = 7 - from;
+                rings.setBuffer(from, value);
+                ends(check, rings, latency, WRITE, a, from, OK);
+                check.same("getBlock(" + a + ")", rings.getBlock(a), value);
+                ends(check, rings, latency, CMP, a, value, OK);
+                ends(check, rings, latency, CMP, a, value ^ 1, MISMATCH);
+                ends(check, rings, latency, CMP, a, value ^ MIN, MISMATCH);
+                rings.setBuffer(from, 0);
+                ends(check, rings, latency, READ, a, into, OK);
+                check.same("getBuffer(" + into + ")", rings.getBuffer(into), value);
+            }
+        }
+    }
+
+    private static void timersExpireAfterTheirTicks(Check check) {
+        AsyncRings rings = new AsyncRings(16, 16, 3);
+        for (int i = 0; i < 16; i++) {
+            // 7 goes round all lengths from 1 to 16, in an order that is neither rising nor falling.
+            int length = 1 + 7 * i % 16;
+            rings.prep(TIMEOUT, length, 0, 100 + length);
+        }
+        rings.enter(16);
+        for (int passed = 1; passed <= 16; passed++) {
+            check.same("tick() number " + passed, rings.tick(), 1);
+            check.tagsFrom("after tick number " + passed, rings, 101, passed, 0);
+        }
+        check.live("after the last", rings);
+    }
+
+    private static void workInFlightIsCanceledByItsTag(Check check) {
+        for (int tag = 1; tag <= 4; tag++) {
+            AsyncRings rings = new AsyncRings(8, 8, 2);
+            fillBuffers(rings, 10);
+            rings.prep(WRITE, 3, 1, 1);
+            rings.prep(READ, 4, 2, 2);
+            rings.prep(CMP, 5, 0, 3);
+            rings.prep(TIMEOUT, 2, 0, 4);
+            rings.prep(CANCEL, tag, 0, 9);
+            rings.enter(5);
+            String what = "cancel of " + tag;
+            check.completions(what, rings, 0, tag, CANCELED, 9, 1);
+            check.same(what + ": liveCount()", rings.liveCount(), 3);
+            pops(rings, 2);
+            ticks(rings, 2);
+            int due = 0;
+            for (int other = 1; other <= 4; other++) {
+                if (other != tag) {
+                    check.same(what + ": cqTag(" + due + ")", rings.cqTag(due), other);
+                    check.same(what + ": cqResult(" + due + ")", rings.cqResult(due), OK);
+                    due++;
+                }
+            }
+            check.same(what + ": getBlock(3)", rings.getBlock(3), tag == 1 ? 0 : 11);
+            check.same(what + ": getBuffer(2)", rings.getBuffer(2), tag == 2 ? 12 : 0);
+        }
+    }
+
     public static void main(String[] args) {
         Check check = new Check("What it is");
         check.sentence("The process writes request entries into a bounded submission ring (SQ).",
                 WhatItIsTest::theSubmissionRingIsBounded);
+        check.sentence("On enter, the kernel consumes them, links consecutive flagged entries into chains, and starts"
+                + " each chain head.", WhatItIsTest::enterConsumesLinksAndStarts);
+        check.sentence("read or write blocks of a small simulated device of BLOCKS int blocks through BUFFERS"
+                + " registered int buffers, or compare a block with a given value, after a fixed latency;",
+                WhatItIsTest::everyBlockIsReachedAfterTheLatency);
+        check.sentence("act as timers that expire after a given number of ticks;",
+                WhatItIsTest::timersExpireAfterTheirTicks);
+        check.sentence("cancel in-flight work by tag.", WhatItIsTest::workInFlightIsCanceledByItsTag);
         check.sentence("Each finished request posts one completion (tag, result).",
                 WhatItIsTest::eachPostsOneCompletion);
         check.sentence("The completion goes into a bounded completion ring (CQ).",
