@@ -173,7 +173,34 @@ public final class TermsFinishTest extends Scenes {
         check.yes("nothing is touched", memory.equals(Snapshot.memory(rings)));
     }
 
+    /** A cancel that a tick sets off, so many timers standing before and behind it, one of them with its tag. */
+    private static void oneTargetAt(Check check, int before, int behind, int place) {
+        AsyncRings rings = new AsyncRings(16, 16, 0);
+        for (int i = 0; i <= before + behind; i++) {
+            if (i == before) {
+                rings.prep(TIMEOUT + LINK, 1, 0, 1);
+                rings.prep(CANCEL, 5, 0, 2);
+                rings.enter(2);
+            }
+            if (i < before + behind) {
+                timers(rings, i == place ? 5 : 6, 1);
+            }
+        }
+        rings.tick();
+        String what = before + " before, " + behind + " behind, the target at " + place;
+        check.completions(what, rings, 0, 1, OK, 5, CANCELED, 2, 1);
+        check.same(what + ": liveCount()", rings.liveCount(), before + behind - 1);
+        for (int k = 0; k < before + behind - 1; k++) {
+            check.same(what + ": liveTag(" + k + ")", rings.liveTag(k), 6);
+        }
+    }
+
     private static void targetsArePendingOnesWithTheTag(Check check) {
+        for (int before = 0; before <= 30; before += 5) {
+            for (int place = 0; place < 30; place++) {
+                oneTargetAt(check, before, 30 - before, place);
+            }
+        }
         int[] tags = {MIN, -1, 0, 5, MAX};
         for (int tag : tags) {
             AsyncRings rings = new AsyncRings(16, 16, 2);
